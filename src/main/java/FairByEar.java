@@ -240,9 +240,6 @@ public final class FairByEar {
     }
 
     public int buy(int person, int item) {
-        if (!mine.isPerson(person) || !items.isItem(item)) {
-            return NONE;
-        }
         return items.sell(item, person, asking.priceOf(item));
     }
 
@@ -1032,7 +1029,8 @@ public final class FairByEar {
             }
             startDraft();
             for (int p = 0; p < signs && p < MOST_RULE; p++) {
-                if (!takes(text[p])) {
+                boolean fits = wantsThing ? takesThing(text[p]) : takesBehind(text[p]);
+                if (!fits) {
                     return -1 - p;
                 }
             }
@@ -1057,10 +1055,6 @@ public final class FairByEar {
             wantsThing = true;
         }
 
-        private boolean takes(int c) {
-            return wantsThing ? takesThing(c) : takesBehind(c);
-        }
-
         private boolean takesThing(int c) {
             if (c == '!') {
                 await('!');
@@ -1074,7 +1068,6 @@ public final class FairByEar {
                 wantsThing = false;
             } else if (isSign(c)) {
                 emit(-c);
-                digits = 0;
                 wantsThing = false;
             } else {
                 return false;
@@ -1749,7 +1742,6 @@ public final class FairByEar {
         int tellHands(Row told) {
             int people = mine.people();
             int all = (1 << clinks) - 1;
-            Arrays.fill(ways, 0);
             ways[0] = 1;
             for (int person = 0; person < people; person++) {
                 giveTo(person, all);

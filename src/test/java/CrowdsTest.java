@@ -53,7 +53,8 @@ public final class CrowdsTest {
         Check.due("place -1", x.heard(-1, 0), -1);
         Check.due("1000", x.heard(0, 1000), -1);
         Check.due("-1", x.heard(0, -1), -1);
-        for (int i = 1; i <= 6; i++) {
+        Check.due("nothing", x.heard(9, 0), 1);
+        for (int i = 2; i <= 6; i++) {
             Check.due("heard", x.heard(9, 999), i);
         }
         Check.due("7", x.heard(0, 0), -1);
@@ -83,6 +84,28 @@ public final class CrowdsTest {
         Check.due("7 places", x.crowds(7, 0), -1);
         Check.due("-1", x.crowds(1, -1), -1);
         Check.due("100", x.crowds(1, 100), -1);
+        FairByEar y = new FairByEar();
+        y.heard(0, 99);
+        Check.due("99", y.crowds(1, 99), 4);
+        Check.row(y, "99", 0);
+        Check.due("98", y.crowds(1, 98), 3);
+        Check.row(y, "98", 1);
+        sixPlaces();
+    }
+
+    /** No TUNNELS: each crowd is heard where it is alone. */
+    private static void sixPlaces() {
+        FairByEar x = new FairByEar();
+        int[] crowd = {4, 0, 3, 1, 2, 4};
+        for (int place = 0; place < 6; place++) {
+            x.heard(place, 60 * crowd[place]);
+        }
+        Check.due("just one", x.crowds(6, 0), 1);
+        Check.row(x, "just one", 4, 0, 3, 1, 2, 4);
+        Check.due("just below one more", x.crowds(6, 59), 1);
+        Check.due("one more or less each", x.crowds(6, 60), 2 * 2 * 3 * 3 * 3 * 2);
+        Check.row(x, "one more or less each", 3, 0, 2, 0, 1, 3);
+        Check.due("without the last", x.crowds(5, 0), 0);
     }
 
     /** With 80 at PLACE 0, 50 at 1 and, if also, 140 there. */

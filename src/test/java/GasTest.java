@@ -43,6 +43,11 @@ public final class GasTest {
         Check.due("at place 0", x.lasts(), 999);
         x.gas(2, 9999);
         Check.due("one alone", x.lasts(), 9998);
+        x.gas(0, 9998);
+        Check.due("not one minute, but out at once", x.lasts(), 0);
+        x.gas(0, 9999);
+        Check.due("it is death already", x.lasts(), -2);
+        x.gas(0, 0);
         x.person(1, 0, 0);
         Check.due("no way", x.lasts(), -2);
         x = three();
@@ -99,5 +104,7 @@ public final class GasTest {
         x.person(1, 0, 0);
         Check.due("of equal ones the first", x.leave(), 4);
         Check.row(x, "of equal ones the first", 1, 2, 4, 0);
+        x.gas(1, 1);
+        Check.due("who has no way stays, however little they breathe", x.leave(), 4);
     }
 }

@@ -85,7 +85,9 @@ public final class GoodsTest {
         Check.due("all 0", x.answer(2, 0, 5), 0);
         Check.due("below 0", x.sheet(0, 2, -1, 9, 9), -2);
         Check.due("nothing changed", x.answer(2, 0, 5), 5);
+        x.answer(0, 0, 5);
         Check.due("missing", x.sheet(0, 3, -7, 9, 9), -3);
+        Check.due("all 0", x.answer(0, 0, 0), 0);
         Check.due("all 0", x.answer(2, 0, 6), 0);
         Check.due("missing, but n above 10", x.sheet(0, 3, 11, 9, 9), -1);
         Check.due("n above 10", x.sheet(0, 0, 11, 9, 9), -1);
@@ -114,6 +116,12 @@ public final class GoodsTest {
         Check.row(x, "by both", 7);
         Check.due("of fewer", x.sure(13, 1), 3);
         Check.row(x, "of fewer", 13);
+        Check.due("the first alone", x.sure(1, 0), 1);
+        Check.row(x, "the first alone", 1);
+        x.test(1);
+        x.good(1);
+        Check.due("answers at first are 0", x.sure(63, 7), 2);
+        Check.row(x, "answers at first are 0: the first has another like it", 6);
     }
 
     private static void keptApart() {
@@ -157,6 +165,12 @@ public final class GoodsTest {
         Check.row(x, "by no test", 1 + 2 + 8);
         Check.due("none", x.ban(9, 1), 0);
         Check.row(x, "none", 0);
+        x = new FairByEar();
+        x.good(9);
+        x.good(1);
+        x.test(1);
+        Check.due("the first stays", x.ban(3, 1), 1);
+        Check.row(x, "the first stays", 2);
     }
 
     private static void trees() {
@@ -193,6 +207,32 @@ public final class GoodsTest {
         Check.due("path of none", x.asks(6, 2), 0);
         Check.row(x, "path of none", 6);
         theMostOfEqualTrees();
+        deepTrees();
+    }
+
+    /** Each TEST tells one GOOD alone: all six are taken one after the other, the cheapest first. */
+    private static void deepTrees() {
+        FairByEar x = fair(8, 1, 2, 3, 4, 5, 6);
+        for (int test = 0; test < 6; test++) {
+            x.answer(test, test, 9);
+        }
+        Check.due("a path without a tree ahead", x.asks(255, 7), 6);
+        Check.row(x, "a path without a tree ahead", 0, 1, 2, 3, 4, 5, 64 + 128);
+        Check.due("the fifth of them", x.asks(255, 4), 5);
+        Check.row(x, "the fifth of them", 0, 1, 2, 3, 4, 16);
+        Check.due("deep", x.tree(255), 8 + 7 * 2 + 6 * 3 + 5 * 4 + 4 * 5 + 3 * 6);
+        Check.row(x, "deep", 0, 21);
+        int[] due = {0, 1, 1, 2, 2, 2, 3};
+        for (int coppers = 0; coppers < due.length; coppers++) {
+            Check.due("for " + coppers, x.copper(255, coppers), due[coppers]);
+        }
+        Check.due("for 20", x.copper(255, 20), 5);
+        Check.due("for 21", x.copper(255, 21), 6);
+        Check.due("the last two stay together", x.copper(255, 99), 6);
+        Check.due("without one of them", x.copper(127, 21), 7);
+        Check.due("keep", x.keep(127), 6);
+        Check.due("the first alone", x.tree(1), 0);
+        Check.row(x, "the first alone", -1, 0);
     }
 
     private static void theMostOfEqualTrees() {
@@ -214,6 +254,18 @@ public final class GoodsTest {
         answers(x, 2, "001");
         Check.due("30, or 20 and 8", x.tree(7), 28);
         Check.row(x, "it costs more for some", 1, 4);
+        x = new FairByEar();
+        x.good(1);
+        x.good(9);
+        x.good(1);
+        x.test(2);
+        x.test(2);
+        answers(x, 0, "010");
+        answers(x, 1, "001");
+        Check.due("22, and 4 for two", x.tree(7), 26);
+        Check.row(x, "the first good costs the most, too", 0, 4);
+        Check.due("two of them", x.tree(3), 20);
+        Check.row(x, "two of them", 0, 2);
     }
 
     private static void coppers() {

@@ -24,6 +24,10 @@ public final class JudgeTest {
         }
         Check.due("all four would be 0", x.ear(0, 0), -1);
         Check.due("it stayed 9", x.ear(0, 1), 9);
+        Check.due("as much as all others", x.ear(3, 1), 0);
+        Check.due("another one is left", x.ear(0, 0), 1);
+        Check.due("the last one", x.ear(3, 0), -1);
+        Check.due("for another", x.ear(1, 0), 0);
     }
 
     private static void sounds() {
@@ -72,6 +76,8 @@ public final class JudgeTest {
         Check.row(x, "of equal ones the first: 18 of 6, 18, 6, 18", 3, 8);
         Check.due("back 2", x.judge(0, 2, 2), 2);
         Check.row(x, "36 of 1, 3, 36, 3", 36, 43);
+        Check.due("1 by 1", x.judge(0, 5, 2), 3);
+        Check.row(x, "it alone, little as it is", 1, 1);
         x.ear(3, 9);
         Check.due("off by 3", x.judge(0, 6, 0), 3);
         Check.row(x, "off by 3", 1, 1);

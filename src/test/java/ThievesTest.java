@@ -69,6 +69,9 @@ public final class ThievesTest {
         y.counted(0, 5, 9);
         y.counted(0, 5, 4);
         y.counted(0, 1, 4);
+        y.counted(1, 3, 1);
+        Check.due("none left", y.counted(1, 4, 0), 6);
+        Check.due("all were taken", y.missing(1), 1);
         Check.due("of equal minutes as told", y.missing(0), 2);
         Check.row(y, "of equal minutes as told", 1, 5, 1 + 5);
     }

@@ -12,6 +12,7 @@ public final class TradeTest {
         goingRound();
         goingRoundLate();
         notSoFar();
+        justSoFar();
         buying();
         undoing();
         Check.done();
@@ -100,6 +101,15 @@ public final class TradeTest {
         Check.row(x, "as it was", 0, 0, 0, 0);
         Check.due("and nothing changed", x.thing(1, 2), 21);
         thePurseBounds();
+        theFirstOfPeopleAsks();
+    }
+
+    private static void theFirstOfPeopleAsks() {
+        FairByEar x = fair(2, 1);
+        x.item(0, 1, 10);
+        x.want(0, 0, 10);
+        Check.due("asked for by one", x.rounds(1), 0);
+        Check.row(x, "asked for by one", 1);
     }
 
     private static void thePurseBounds() {
@@ -262,6 +272,24 @@ public final class TradeTest {
         FairByEar y = fair(1, 1);
         y.item(0, 0, 99);
         Check.due("99 down, and 9 rounds more", y.settles(), 108);
+    }
+
+    /** Rounds of 10 and 26 together are 130; from 84 down the first 70 go by ahead of them, from 85 one more. */
+    private static void justSoFar() {
+        for (int price = 84; price <= 85; price++) {
+            FairByEar x = new FairByEar();
+            x.wind(1);
+            x.person(0, 0, 0);
+            x.tunnel(0, 1, 2);
+            x.tunnel(0, 2, 6);
+            for (int place = 1; place <= 2; place++) {
+                int good = x.good(1);
+                x.item(good, 0, place == 1 ? price : 20);
+                x.want(x.person(place, 999, 0), good, 20);
+                x.want(x.person(place, 999, 0), good, 20);
+            }
+            Check.due("in 200 rounds from " + price, x.settles(), price == 84 ? -1 - 130 : -999);
+        }
     }
 
     private static void buying() {

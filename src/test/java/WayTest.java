@@ -55,6 +55,8 @@ public final class WayTest {
         bad("12u", 2);
         bad("l1", 1);
         bad("(l)1", 3);
+        bad("(1)2", 3);
+        bad("1*l2", 3);
         bad("(l)(", 3);
         bad("(l)l", 3);
         bad("1234", 3);
@@ -87,6 +89,8 @@ public final class WayTest {
         fine("(((((l)))))+(((((u)))))");
         fine("l<u&u<n|n=f");
         fine("(l<u)<n");
+        fine("(l<u)+(n<f)");
+        fine("(l<u|n<f)&(n<f)");
         fine("l<(u<(n<1))");
         fine("!!--!-l");
         fine("l--u");
@@ -154,6 +158,9 @@ public final class WayTest {
         value(x, "l<u", 1, 1, 1);
         value(x, "l>3", 1, 0, 0);
         value(x, "l=4", 1, 0, 0);
+        value(x, "l<4", 0, 1, 1);
+        value(x, "l>0", 1, 0, 1);
+        value(x, "4>l", 0, 1, 1);
         value(x, "l+1=5", 1, 0, 0);
         value(x, "1+l=5", 1, 0, 0);
         value(x, "l&u", 1, 0, 1);
@@ -172,6 +179,15 @@ public final class WayTest {
 
     private static void failedRulesStay() {
         FairByEar x = three();
+        String[] left = {"((", "(1", "12", "l<", "(l<u", "!", "1+2*", "((l<u)<", "l<u<"};
+        for (String text : left) {
+            Check.rule(x, text);
+            value(x, "7", 7, 7, 7);
+            Check.rule(x, text);
+            Check.due("behind \"" + text + "\" a )", Check.rule(x, ")"), -1);
+            Check.rule(x, text);
+            value(x, "l<u", 1, 1, 1);
+        }
         value(x, "l*2", 8, 0, 2);
         Check.due("a bad one", Check.rule(x, "u+"), -3);
         x.first(0, 1);
