@@ -975,6 +975,10 @@ public final class FairByEar {
         private static final int MOST_DIGITS = 3;
         // A minus ahead of a thing; no text can bring it, as no thing and no sign behind one is it.
         private static final int MINUS_AHEAD = '~';
+        // How strongly signs bind, from 1 (the least) on.
+        private static final int LEAST = 1;
+        private static final int COMPARING = 3;
+        private static final int AHEAD = 6;
 
         private final Mine mine;
         private final int[] text = new int[MOST_SIGNS];
@@ -1040,7 +1044,7 @@ public final class FairByEar {
             if (wantsThing || open > 0) {
                 return -1 - signs;
             }
-            release(1);
+            release(LEAST);
             System.arraycopy(draft, 0, steps, 0, drafted);
             size = drafted;
             return 0;
@@ -1084,11 +1088,11 @@ public final class FairByEar {
                 return closes();
             }
             int level = levelBetween(c);
-            if (level == 0 || level == 3 && compared[open]) {
+            if (level == 0 || level == COMPARING && compared[open]) {
                 return false;
             }
-            if (level <= 3) {
-                compared[open] = level == 3;
+            if (level <= COMPARING) {
+                compared[open] = level == COMPARING;
             }
             release(level);
             await(c);
@@ -1119,7 +1123,7 @@ public final class FairByEar {
             if (open == 0) {
                 return false;
             }
-            release(1);
+            release(LEAST);
             open--;
             waits = Math.max(0, waits - 1);
             return true;
@@ -1136,9 +1140,9 @@ public final class FairByEar {
         /** How strongly a sign between two things binds; 0: it is none. */
         private static int levelBetween(int c) {
             switch (c) {
-                case '|': return 1;
+                case '|': return LEAST;
                 case '&': return 2;
-                case '<': case '>': case '=': return 3;
+                case '<': case '>': case '=': return COMPARING;
                 case '+': case '-': return 4;
                 case '*': return 5;
                 default: return 0;
@@ -1146,7 +1150,7 @@ public final class FairByEar {
         }
 
         private static int levelWaiting(int c) {
-            return c == '!' || c == MINUS_AHEAD ? 6 : levelBetween(c);
+            return c == '!' || c == MINUS_AHEAD ? AHEAD : levelBetween(c);
         }
 
         private void emit(int step) {
@@ -1176,7 +1180,7 @@ public final class FairByEar {
                 int step = steps[i];
                 if (step >= 0 || isSign(-step)) {
                     height = put(height, step >= 0 ? step : signFor(-step, person));
-                } else if (height >= 1 && levelWaiting(-step) == 6) {
+                } else if (height >= 1 && levelWaiting(-step) == AHEAD) {
                     int v = values[height - 1];
                     values[height - 1] = step == -MINUS_AHEAD ? -v : bit(v == 0);
                 } else if (height >= 2) {

@@ -24,7 +24,7 @@ final class Check {
     static void fail(String what) {
         wrong++;
         if (wrong <= 40) {
-            System.out.println(what);
+            System.out.println(what.replaceAll("[^ -~]", "?"));
         }
     }
 
