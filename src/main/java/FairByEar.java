@@ -1995,7 +1995,10 @@ public final class FairByEar {
             return gas >= fire;
         }
 
-        /** GAS never falls, so that of the last minute alone tells whether it stays below LIMIT. */
+        /**
+         * GAS never falls, so that of the last minute alone tells whether it stays below LIMIT; with all at PLACE 0
+         * and nobody staying there is no such minute, so GAS of now is not asked.
+         */
         int stay() {
             int people = mine.people();
             if (people == 0) {
@@ -2011,7 +2014,7 @@ public final class FairByEar {
             int atLast = gas + breath * lengths;
             int each = breath * people;
             if (atLast >= limit || each < 1) {
-                return -2;
+                return lengths == 0 ? 0 : -2;
             }
             return Math.min(MOST_MINUTES, (limit - 1 - atLast) / each);
         }

@@ -934,15 +934,20 @@ public final class PlainFair {
     }
 
     private boolean allOut(int stay) {
-        long level = gases[0] + (long) stay * gases[1] * people.size();
-        boolean alive = level < gases[2];
-        for (int gone = 0; alive && gone < 200; gone++) {
-            for (Person p : people) {
-                level += far(0, p.place) > gone ? gases[1] : 0;
-            }
-            alive = level < gases[2];
+        int last = 0;
+        for (Person p : people) {
+            last = Math.max(last, far(0, p.place));
         }
-        return alive;
+        long level = gases[0];
+        for (int minute = 0; minute < stay + last; minute++) {
+            for (Person p : people) {
+                level += stay + far(0, p.place) > minute ? gases[1] : 0;
+            }
+            if (level >= gases[2]) {
+                return false;
+            }
+        }
+        return true;
     }
 
     public int lasts() {
