@@ -5,8 +5,27 @@ import java.util.function.LongSupplier;
 /** What the tests share: an answer against the one that is due, and an end with exit code 1 if one was wrong. */
 final class Check {
     private static int wrong = 0;
+    private static String held = "";
 
     private Check() {
+    }
+
+    /** A sentence of a promise, as the document has it: the checks behind this call hold to it. */
+    static void promise(int number, String sentence) {
+        held = "promise " + number + ", \"" + sentence + "\": ";
+        quoted(number, sentence);
+    }
+
+    /** Likewise a sentence of "Terms". */
+    static void terms(String sentence) {
+        held = "Terms, \"" + sentence + "\": ";
+        quoted(Doc.TERMS, sentence);
+    }
+
+    private static void quoted(int number, String sentence) {
+        if (!Doc.quote(number, sentence)) {
+            fail("the document does not say so");
+        }
     }
 
     static void due(String what, long got, long want) {
@@ -24,7 +43,7 @@ final class Check {
     static void fail(String what) {
         wrong++;
         if (wrong <= 40) {
-            System.out.println(what.replaceAll("[^ -~]", "?"));
+            System.out.println((held + what).replaceAll("[^ -~]", "?"));
         }
     }
 
@@ -32,9 +51,8 @@ final class Check {
     static void row(FairByEar x, String what, long... want) {
         due(what + ": count(8)", x.count(8), want.length);
         for (int i = 0; i < want.length; i++) {
-            final int at = i;
             try {
-                due(what + ": row(" + i + ")", x.row(at), want[i]);
+                due(what + ": row(" + i + ")", x.row(i), want[i]);
             } catch (NoSuchElementException e) {
                 fail(what + ": row(" + i + ") is missing, due is " + want[i]);
             }
@@ -74,6 +92,23 @@ final class Check {
         System.out.println(wrong == 0 ? "all answers are as due" : wrong + " answers are not as due");
         if (wrong != 0) {
             System.exit(1);
+        }
+    }
+
+    /** The end of a test of these promises. */
+    static void done(int from, int to) {
+        covered(from, to);
+        done();
+    }
+
+    /** No word of these promises is without a test that quotes it. */
+    static void covered(int from, int to) {
+        for (int promise = from; promise <= to; promise++) {
+            held = "promise " + promise + ": ";
+            String left = Doc.unquoted(promise);
+            if (!left.isEmpty()) {
+                fail("no test quotes: " + left);
+            }
         }
     }
 }

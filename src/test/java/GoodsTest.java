@@ -1,315 +1,235 @@
-/** Promises 8 to 18: goods and tests. */
+/** Promises 8 to 12: GOODS, TESTS and ANSWERS. */
 public final class GoodsTest {
+    private static final int BYTES = 0;
+    private static final int SHORTS = 1;
+    private static final int INTS = 2;
+    private static final int MISSING = 3;
+
     public static void main(String[] args) {
-        goodsAndTests();
-        answers();
-        sheets();
-        toldForSure();
-        keptApart();
-        banned();
-        trees();
-        coppers();
-        wrongBits();
-        Check.done();
+        promise8Good();
+        promise9Test();
+        promise10Answer();
+        promise11Entries();
+        promise11Kinds();
+        promise11Behind();
+        promise11Sum();
+        promise11Below0();
+        promise11Missing();
+        promise11TheseFirst();
+        promise12Apart();
+        Check.done(8, 12);
     }
 
-    private static FairByEar fair(int goods, int... costs) {
+    private static void promise8Good() {
+        Check.promise(8, "A GOOD more: its number.");
         FairByEar x = new FairByEar();
-        for (int i = 0; i < goods; i++) {
-            x.good(1);
-        }
-        for (int cost : costs) {
-            x.test(cost);
-        }
-        return x;
-    }
-
-    /** ANSWERS to a TEST, a digit for each GOOD. */
-    private static void answers(FairByEar x, int test, String digits) {
-        for (int i = 0; i < digits.length(); i++) {
-            x.answer(i, test, digits.charAt(i) - '0');
-        }
-    }
-
-    private static void goodsAndTests() {
-        FairByEar x = new FairByEar();
-        Check.due("often 0", x.good(0), -1);
-        Check.due("often 10", x.good(10), -1);
-        Check.due("cost 0", x.test(0), -1);
-        Check.due("cost 10", x.test(10), -1);
         for (int i = 0; i < 10; i++) {
-            Check.due("good", x.good(i < 9 ? i + 1 : 1), i);
+            Check.due("good " + i, x.good(i < 9 ? i + 1 : 1), i);
+            Check.due("as many", x.count(2), i + 1);
         }
-        Check.due("good 10", x.good(1), -1);
+        x.test(1);
+        Fairs.answers(x, 0, "0123456789");
+        for (int i = 0; i < 9; i++) {
+            Check.due("OFTEN of each, by the sum of two", x.tree(1 << i | 512), i + 1 + 1);
+        }
+        Check.promise(8, "Refused: OFTEN not 1 .. 9, 10.");
+        Still.refusedBeyond("good", new int[] {5}, Still.ends(1, 9));
+        Still.refused(Fairs::full, "good", 1);
+        Still.refused(FairByEar::new, "good", 0);
+        Still.refused(FairByEar::new, "good", 10);
+    }
+
+    private static void promise9Test() {
+        Check.promise(9, "A TEST more: its number.");
+        FairByEar x = Fairs.goods(2);
         for (int i = 0; i < 6; i++) {
-            Check.due("test", x.test(9 - i), i);
+            Check.due("test " + i, x.test(9 - i), i);
+            Check.due("as many", x.count(3), i + 1);
+            x.answer(1, i, 1);
+            Check.due("its COST, less than those ahead, for both", x.tree(3), 2 * (9 - i));
         }
-        Check.due("test 6", x.test(1), -1);
-        Check.due("goods", x.count(2), 10);
-        Check.due("tests", x.count(3), 6);
+        Check.promise(9, "Refused: others, 6.");
+        Still.refusedBeyond("test", new int[] {5}, Still.ends(1, 9));
+        Still.refused(Fairs::full, "test", 1);
+        Still.refused(FairByEar::new, "test", 0);
+        Still.refused(FairByEar::new, "test", 10);
     }
 
-    private static void answers() {
-        FairByEar x = fair(2, 1, 1, 1);
-        Check.due("at first 0", x.answer(0, 0, 9), 0);
-        Check.due("it was 9", x.answer(0, 0, 4), 9);
-        Check.due("10", x.answer(0, 0, 10), -1);
-        Check.due("-1", x.answer(0, 0, -1), -1);
-        Check.due("good 2", x.answer(2, 0, 1), -1);
-        Check.due("good -1", x.answer(-1, 0, 1), -1);
-        Check.due("test 3", x.answer(0, 3, 1), -1);
-        Check.due("test -1", x.answer(0, -1, 1), -1);
-        Check.due("it stayed 4", x.answer(0, 0, 4), 4);
-        x.answer(1, 2, 1);
-        Check.due("apart", x.apart(0, 1), 5);
-        Check.due("apart, back", x.apart(1, 0), 5);
-        Check.due("from itself", x.apart(1, 1), 0);
-        Check.due("good 2", x.apart(0, 2), -1);
-        Check.due("good -1", x.apart(-1, 0), -1);
-    }
-
-    private static void sheets() {
-        FairByEar x = fair(4, 1, 1);
-        Check.due("ints", x.sheet(0, 2, 3, 5, 3), 5 + 8 + 9);
-        Check.due("good 2 has 9", x.answer(2, 0, 9), 9);
-        Check.due("one behind it", x.answer(3, 0, 7), 0);
-        Check.due("bytes: 260 is 4", x.sheet(0, 0, 4, 260, 1), 4 + 5 + 6 + 7);
-        Check.due("bytes: 200 is below 0", x.sheet(0, 0, 4, 200, 1), 0);
-        Check.due("bytes: 127 and 128", x.sheet(0, 0, 2, 127, 1), 9);
-        Check.due("shorts: 65537 is 1", x.sheet(0, 1, 2, 65537, 1), 1 + 2);
-        Check.due("shorts: 40000 is below 0", x.sheet(0, 1, 4, 40000, 1), 0);
-        Check.due("ints: 65537 is 9", x.sheet(0, 2, 2, 65537, 1), 18);
-        Check.due("ints go round", x.sheet(0, 2, 2, Integer.MAX_VALUE, 1), 9);
-        Check.due("those behind are 0", x.answer(2, 0, 5), 0);
-        Check.due("no entries", x.sheet(0, 2, 0, 9, 9), 0);
-        Check.due("all 0", x.answer(2, 0, 5), 0);
-        Check.due("below 0", x.sheet(0, 2, -1, 9, 9), -2);
-        Check.due("nothing changed", x.answer(2, 0, 5), 5);
-        x.answer(0, 0, 5);
-        Check.due("missing", x.sheet(0, 3, -7, 9, 9), -3);
-        Check.due("all 0", x.answer(0, 0, 0), 0);
-        Check.due("all 0", x.answer(2, 0, 6), 0);
-        Check.due("missing, but n above 10", x.sheet(0, 3, 11, 9, 9), -1);
-        Check.due("n above 10", x.sheet(0, 0, 11, 9, 9), -1);
-        Check.due("kind 4", x.sheet(0, 4, -1, 9, 9), -1);
-        Check.due("kind -1", x.sheet(0, -1, 1, 9, 9), -1);
-        Check.due("test 2", x.sheet(2, 0, -1, 9, 9), -1);
-        Check.due("test -1", x.sheet(-1, 3, 0, 9, 9), -1);
-        Check.due("nothing changed", x.answer(2, 0, 6), 6);
-        Check.due("the other test", x.answer(2, 1, 6), 0);
-        Check.due("more entries than goods", x.sheet(0, 2, 10, 1, 0), 4);
-        x.good(1);
-        Check.due("a good told later has 0", x.answer(4, 0, 0), 0);
-    }
-
-    private static void toldForSure() {
-        FairByEar x = fair(5, 1, 1);
-        answers(x, 0, "01122");
-        answers(x, 1, "00100");
-        Check.due("by none", x.sure(31, 0), 0);
-        Check.row(x, "by none", 0);
-        Check.due("one alone by none", x.sure(8, 0), 1);
-        Check.row(x, "one alone by none", 8);
-        Check.due("by the first", x.sure(31, 1), 1);
-        Check.row(x, "by the first", 1);
-        Check.due("by both", x.sure(31, 3), 3);
-        Check.row(x, "by both", 7);
-        Check.due("of fewer", x.sure(13, 1), 3);
-        Check.row(x, "of fewer", 13);
-        Check.due("the first alone", x.sure(1, 0), 1);
-        Check.row(x, "the first alone", 1);
-        x.test(1);
-        x.good(1);
-        Check.due("answers at first are 0", x.sure(63, 7), 2);
-        Check.row(x, "answers at first are 0: the first has another like it", 6);
-    }
-
-    private static void keptApart() {
-        FairByEar x = fair(4, 9, 9, 3, 3, 3);
-        answers(x, 0, "0123");
-        Check.due("one test", x.keep(15), 1);
-        Check.row(x, "one test", 1);
-        answers(x, 0, "0012");
-        answers(x, 1, "0101");
-        answers(x, 2, "0011");
-        answers(x, 3, "0101");
-        Check.due("the cheapest two", x.keep(15), 2);
-        Check.row(x, "the cheapest two", 12);
-        answers(x, 4, "0011");
-        Check.due("of equal ones the least bits", x.keep(15), 2);
-        Check.row(x, "of equal ones the least bits", 12);
-        Check.due("one good", x.keep(8), 0);
-        Check.row(x, "one good", 0);
-        answers(x, 1, "0000");
-        answers(x, 3, "0000");
-        Check.due("all do not do", x.keep(15), -2);
-        Check.due("of these", x.keep(3), -2);
-        Check.due("of others", x.keep(5), 1);
-        Check.row(x, "of others: test 2 is cheaper than 0", 4);
-        FairByEar y = fair(2);
-        Check.due("no tests", y.keep(3), -2);
-        Check.due("no tests, one good", y.keep(2), 0);
-    }
-
-    private static void banned() {
-        FairByEar x = new FairByEar();
-        int[] often = {2, 5, 5, 1, 9};
-        for (int v : often) {
-            x.good(v);
+    private static void promise10Answer() {
+        Check.promise(10, "ANSWER of a GOOD to a TEST becomes v: what it was.");
+        FairByEar x = Fairs.goods(10, 1, 1, 1, 1, 1, 1);
+        for (int i = 0; i < 60; i++) {
+            Check.due("at first 0", x.answer(i % 10, i / 10, (i * 7 + 9) % 10), 0);
         }
-        x.test(1);
-        answers(x, 0, "00011");
-        Check.due("the rest of each group", x.ban(31, 1), 3);
-        Check.row(x, "the most often stays; of equal ones the last", 1 + 2 + 8);
-        Check.due("by no test", x.ban(15, 0), 3);
-        Check.row(x, "by no test", 1 + 2 + 8);
-        Check.due("none", x.ban(9, 1), 0);
-        Check.row(x, "none", 0);
-        x = new FairByEar();
-        x.good(9);
-        x.good(1);
-        x.test(1);
-        Check.due("the first stays", x.ban(3, 1), 1);
-        Check.row(x, "the first stays", 2);
+        for (int i = 0; i < 60; i++) {
+            Check.due("each its own", x.answer(i % 10, i / 10, 9), (i * 7 + 9) % 10);
+            Check.due("it was 9", x.answer(i % 10, i / 10, 0), 9);
+            Check.due("it was 0", x.answer(i % 10, i / 10, 0), 0);
+        }
+        Check.promise(10, "Refused: others.");
+        Still.refusedBeyond("answer", new int[] {1, 1, 4}, Still.ends(0, 2), Still.ends(0, 1), Still.ends(0, 9));
+        Still.refused(FairByEar::new, "answer", 0, 0, 0);
+        Still.refused(() -> Fairs.goods(1), "answer", 0, 0, 0);
+        Still.refused(() -> Fairs.goods(0, 1), "answer", 0, 0, 0);
+        Still.refused(Fairs::full, "answer", 10, 5, 0);
+        Still.refused(Fairs::full, "answer", 9, 6, 0);
     }
 
-    private static void trees() {
-        FairByEar x = new FairByEar();
-        x.good(9);
-        x.good(1);
-        x.good(1);
-        x.test(5);
-        x.test(2);
-        x.test(2);
-        answers(x, 0, "012");
-        answers(x, 1, "100");
-        answers(x, 2, "001");
-        Check.due("the often one first", x.tree(7), 11 * 2 + 2 * 2);
-        Check.row(x, "the often one first", 1, 4);
-        Check.due("path of the often one", x.asks(7, 0), 1);
-        Check.row(x, "path of the often one", 1, 1);
-        Check.due("path of another", x.asks(7, 1), 2);
-        Check.row(x, "path of another", 1, 2, 2);
-        Check.due("equal tests", x.tree(5), 10 * 2);
-        Check.row(x, "equal tests: the first", 1, 2);
-        Check.due("one", x.tree(2), 0);
-        Check.row(x, "one", -1, 0);
-        Check.due("path of one alone", x.asks(2, 1), 0);
-        Check.row(x, "path of one alone", 2);
-        answers(x, 0, "000");
-        answers(x, 2, "000");
-        Check.due("some are left together", x.tree(7), 22);
-        Check.row(x, "some are left together", 1, 2);
-        Check.due("path to both", x.asks(7, 2), 1);
-        Check.row(x, "path to both", 1, 6);
-        Check.due("none parts them", x.tree(6), 0);
-        Check.row(x, "none parts them", -1, 0);
-        Check.due("path of none", x.asks(6, 2), 0);
-        Check.row(x, "path of none", 6);
-        theMostOfEqualTrees();
-        deepTrees();
+    /** ANSWERS of GOODS to TEST 0, a digit for each. */
+    private static void answered(FairByEar x, String what, String digits) {
+        for (int i = 0; i < digits.length(); i++) {
+            int due = digits.charAt(i) - '0';
+            Check.due(what + ": answer of " + i, x.answer(i, 0, due), due);
+        }
     }
 
-    /** Each TEST tells one GOOD alone: all six are taken one after the other, the cheapest first. */
-    private static void deepTrees() {
-        FairByEar x = fair(8, 1, 2, 3, 4, 5, 6);
+    private static void sheet(int kind, int n, int f, int step, String digits) {
+        FairByEar x = Fairs.goods(digits.length(), 1, 1);
+        for (int i = 0; i < digits.length(); i++) {
+            x.answer(i, 1, 3);
+        }
+        String what = "kind " + kind + ", " + n + " entries " + f + " and " + step;
+        int sum = 0;
+        for (char digit : digits.toCharArray()) {
+            sum += digit - '0';
+        }
+        Check.due(what, x.sheet(0, kind, n, f, step), sum);
+        answered(x, what, digits);
+        for (int i = 0; i < digits.length(); i++) {
+            Check.due("the other test", x.answer(i, 1, 3), 3);
+        }
+    }
+
+    private static void promise11Entries() {
+        Check.promise(11, "ANSWERS of GOODS 0, 1, .. to a TEST, as a sheet tells them: bytes (kind 0), shorts (1), "
+            + "ints (2) of n entries f, f + step, ..");
+        for (int kind = BYTES; kind <= INTS; kind++) {
+            sheet(kind, 3, 5, 2, "579");
+            sheet(kind, 10, 0, 1, "0123456789");
+            sheet(kind, 10, 9, -1, "9876543210");
+            sheet(kind, 4, 7, 0, "7777");
+            sheet(kind, 1, 4, 99, "4");
+        }
+        FairByEar x = Fairs.goods(2, 1, 1, 1, 1, 1, 1);
+        Check.due("the last test", x.sheet(5, INTS, 2, 8, -8), 8);
+        Check.due("the last test", x.apart(0, 1), 32);
+    }
+
+    private static void promise11Kinds() {
+        Check.promise(11, "(of bytes, shorts the lowest bits, with their sign; put to 0 .. 9)");
+        sheet(BYTES, 4, 260, 1, "4567");
+        sheet(BYTES, 4, 126, 1, "9900");
+        sheet(BYTES, 4, 254, 1, "0001");
+        sheet(BYTES, 3, -256, 1, "012");
+        sheet(BYTES, 3, -128, -1, "099");
+        sheet(BYTES, 3, 65536 + 3, 256, "333");
+        sheet(BYTES, 2, Integer.MIN_VALUE, 1, "01");
+        sheet(BYTES, 2, Integer.MAX_VALUE, 0, "00");
+        sheet(SHORTS, 4, 65536 + 1, 1, "1234");
+        sheet(SHORTS, 4, 32766, 1, "9900");
+        sheet(SHORTS, 4, 65534, 1, "0001");
+        sheet(SHORTS, 2, 256, 1, "99");
+        sheet(SHORTS, 3, -32768, -1, "099");
+        sheet(SHORTS, 2, Integer.MIN_VALUE, 1, "01");
+        sheet(SHORTS, 2, Integer.MAX_VALUE, 0, "00");
+        sheet(INTS, 4, 8, 1, "8999");
+        sheet(INTS, 4, -2, 1, "0001");
+        sheet(INTS, 2, 65537, 1, "99");
+        sheet(INTS, 2, 256, 65536, "99");
+        sheet(INTS, 2, Integer.MAX_VALUE, 1, "90");
+        sheet(INTS, 2, Integer.MIN_VALUE, -1, "09");
+        sheet(INTS, 3, 1, Integer.MIN_VALUE, "101");
+    }
+
+    private static void promise11Behind() {
+        Check.promise(11, "or a missing one (3): those behind it are 0");
+        for (int kind = BYTES; kind <= INTS; kind++) {
+            FairByEar x = Fairs.goods(4, 1);
+            Fairs.answers(x, 0, "9999");
+            Check.due("two entries", x.sheet(0, kind, 2, 5, 1), 11);
+            answered(x, "two entries", "5600");
+            Fairs.answers(x, 0, "9999");
+            Check.due("no entries", x.sheet(0, kind, 0, 5, 1), 0);
+            answered(x, "no entries", "0000");
+        }
+        FairByEar x = Fairs.goods(4, 1);
+        Fairs.answers(x, 0, "9999");
+        x.sheet(0, MISSING, 4, 5, 1);
+        answered(x, "missing", "0000");
+    }
+
+    private static void promise11Sum() {
+        Check.promise(11, "the sum of all");
+        FairByEar x = Fairs.goods(10, 1);
+        Check.due("the most", x.sheet(0, INTS, 10, 9, 0), 90);
+        Check.due("of those that are put to 0 .. 9", x.sheet(0, INTS, 10, -4, 2), 2 + 4 + 6 + 8 + 9 * 3);
+        FairByEar y = Fairs.goods(4, 1);
+        Check.due("more entries than goods", y.sheet(0, INTS, 10, 1, 0), 4);
+        y.good(1);
+        Check.due("a good told later has 0", y.answer(4, 0, 0), 0);
+        FairByEar z = Fairs.goods(0, 1);
+        Check.due("no goods", z.sheet(0, INTS, 10, 9, 0), 0);
+    }
+
+    private static void promise11Below0() {
+        Check.promise(11, "-2: n below 0 (of kinds 0 .. 2; nothing changes)");
+        for (int kind = BYTES; kind <= INTS; kind++) {
+            Still.still(Fairs::some, "-2", "sheet", 0, kind, -1, 9, 9);
+            Still.still(Fairs::some, "-2", "sheet", 1, kind, Integer.MIN_VALUE, 9, 9);
+        }
+        FairByEar x = Fairs.goods(2, 1);
+        Check.due("of kind 3 it is no matter", x.sheet(0, MISSING, -1, 9, 9), -3);
+        Check.due("of kind 3 it is no matter", x.sheet(0, MISSING, Integer.MIN_VALUE, 9, 9), -3);
+    }
+
+    private static void promise11Missing() {
+        Check.promise(11, "-3: missing (all 0).");
+        FairByEar x = Fairs.goods(3, 1, 1);
+        Fairs.answers(x, 0, "987");
+        Fairs.answers(x, 1, "123");
+        Check.due("missing", x.sheet(0, MISSING, 0, 9, 9), -3);
+        answered(x, "all 0", "000");
+        Check.due("the other test", x.answer(2, 1, 0), 3);
+        Fairs.answers(x, 0, "987");
+        Check.due("missing, 10 entries", x.sheet(0, MISSING, 10, 9, 9), -3);
+        answered(x, "all 0", "000");
+        Fairs.answers(x, 0, "987");
+        Check.due("missing, entries below 0", x.sheet(0, MISSING, -7, 9, 9), -3);
+        answered(x, "all 0", "000");
+    }
+
+    private static void promise11TheseFirst() {
+        Check.promise(11, "NONE: another TEST, kind, n above 10 (these first).");
+        Still.refusedBeyond("sheet", new int[] {1, INTS, 3, 5, 1}, Still.ends(0, 1), Still.ends(BYTES, MISSING),
+            Still.ends(Integer.MIN_VALUE, 10), Still.ends(Integer.MIN_VALUE, Integer.MAX_VALUE),
+            Still.ends(Integer.MIN_VALUE, Integer.MAX_VALUE));
+        for (int kind = BYTES; kind <= MISSING; kind++) {
+            Still.refused(Fairs::some, "sheet", 0, kind, 11, 9, 9);
+            Still.refused(Fairs::some, "sheet", 2, kind, -1, 9, 9);
+            Still.refused(Fairs::some, "sheet", -1, kind, -1, 9, 9);
+            Still.refused(FairByEar::new, "sheet", 0, kind, 0, 0, 0);
+        }
+        Still.refused(Fairs::some, "sheet", 0, 4, -1, 9, 9);
+        Still.refused(Fairs::some, "sheet", 0, -1, -1, 9, 9);
+        Still.refused(Fairs::full, "sheet", 6, INTS, 1, 9, 9);
+    }
+
+    private static void promise12Apart() {
+        Check.promise(12, "TESTS (bits) to which two GOODS have unlike ANSWERS.");
+        FairByEar x = Fairs.goods(3, 1, 1, 1, 1, 1, 1);
+        Check.due("none as long as all are 0", x.apart(0, 2), 0);
         for (int test = 0; test < 6; test++) {
-            x.answer(test, test, 9);
+            x.answer(2, test, 9);
+            Check.due("one more", x.apart(0, 2), (2 << test) - 1);
+            Check.due("and back", x.apart(2, 0), (2 << test) - 1);
         }
-        Check.due("a path without a tree ahead", x.asks(255, 7), 6);
-        Check.row(x, "a path without a tree ahead", 0, 1, 2, 3, 4, 5, 64 + 128);
-        Check.due("the fifth of them", x.asks(255, 4), 5);
-        Check.row(x, "the fifth of them", 0, 1, 2, 3, 4, 16);
-        Check.due("deep", x.tree(255), 8 + 7 * 2 + 6 * 3 + 5 * 4 + 4 * 5 + 3 * 6);
-        Check.row(x, "deep", 0, 21);
-        int[] due = {0, 1, 1, 2, 2, 2, 3};
-        for (int coppers = 0; coppers < due.length; coppers++) {
-            Check.due("for " + coppers, x.copper(255, coppers), due[coppers]);
-        }
-        Check.due("for 20", x.copper(255, 20), 5);
-        Check.due("for 21", x.copper(255, 21), 6);
-        Check.due("the last two stay together", x.copper(255, 99), 6);
-        Check.due("without one of them", x.copper(127, 21), 7);
-        Check.due("keep", x.keep(127), 6);
-        Check.due("the first alone", x.tree(1), 0);
-        Check.row(x, "the first alone", -1, 0);
-    }
-
-    private static void theMostOfEqualTrees() {
-        FairByEar x = fair(4, 4, 2, 2);
-        answers(x, 0, "0123");
-        answers(x, 1, "0011");
-        answers(x, 2, "0101");
-        Check.due("4 at once or 2 and 2", x.tree(15), 16);
-        Check.row(x, "the first of equal ones", 0, 4);
-        x = new FairByEar();
-        x.good(6);
-        x.good(2);
-        x.good(2);
-        x.test(3);
-        x.test(2);
-        x.test(2);
-        answers(x, 0, "012");
-        answers(x, 1, "100");
-        answers(x, 2, "001");
-        Check.due("30, or 20 and 8", x.tree(7), 28);
-        Check.row(x, "it costs more for some", 1, 4);
-        x = new FairByEar();
-        x.good(1);
-        x.good(9);
-        x.good(1);
-        x.test(2);
-        x.test(2);
-        answers(x, 0, "010");
-        answers(x, 1, "001");
-        Check.due("22, and 4 for two", x.tree(7), 26);
-        Check.row(x, "the first good costs the most, too", 0, 4);
-        Check.due("two of them", x.tree(3), 20);
-        Check.row(x, "two of them", 0, 2);
-    }
-
-    private static void coppers() {
-        FairByEar x = new FairByEar();
-        x.good(3);
-        x.good(4);
-        x.good(5);
-        x.test(2);
-        x.test(1);
-        answers(x, 0, "011");
-        answers(x, 1, "001");
-        Check.due("0", x.copper(7, 0), 0);
-        Check.due("1", x.copper(7, 1), 5);
-        Check.due("2", x.copper(7, 2), 5);
-        Check.due("3", x.copper(7, 3), 12);
-        Check.due("99", x.copper(7, 99), 12);
-        Check.due("one is told for nothing", x.copper(2, 0), 4);
-        Check.due("100", x.copper(7, 100), -1);
-        Check.due("-1", x.copper(7, -1), -1);
-        long rows = x.count(8);
-        Check.due("it tells no row", rows, 0);
-    }
-
-    private static void wrongBits() {
-        FairByEar x = fair(3, 1, 1);
-        x.sure(7, 3);
-        int[] wrong = {0, -1, 8, 15, Integer.MIN_VALUE, Integer.MAX_VALUE};
-        for (int bits : wrong) {
-            Check.due("sure", x.sure(bits, 0), -1);
-            Check.due("keep", x.keep(bits), -1);
-            Check.due("ban", x.ban(bits, 0), -1);
-            Check.due("tree", x.tree(bits), -1);
-            Check.due("copper", x.copper(bits, 1), -1);
-            Check.due("asks", x.asks(bits, 0), -1);
-        }
-        int[] wrongTests = {-1, 4, 7, Integer.MIN_VALUE};
-        for (int bits : wrongTests) {
-            Check.due("sure", x.sure(7, bits), -1);
-            Check.due("ban", x.ban(7, bits), -1);
-        }
-        Check.due("good 3", x.asks(7, 3), -1);
-        Check.due("good -1", x.asks(7, -1), -1);
-        Check.due("good 32", x.asks(7, 32), -1);
-        Check.due("not one of them", x.asks(5, 1), -1);
-        Check.row(x, "refused calls leave the row", 0);
+        x.answer(0, 3, 9);
+        Check.due("alike again", x.apart(0, 2), 63 - 8);
+        Check.due("each pair its own", x.apart(0, 1), 8);
+        Check.due("from itself", x.apart(2, 2), 0);
+        Check.due("without tests", Fairs.goods(2).apart(0, 1), 0);
+        Check.promise(12, "NONE: none such.");
+        Still.refusedBeyond("apart", new int[] {0, 1}, Still.ends(0, 2), Still.ends(0, 2));
+        Still.refused(FairByEar::new, "apart", 0, 0);
     }
 }

@@ -1,234 +1,273 @@
-/** Promises 19 to 23: rights of way. */
+/** Promises 19 to 23: rights of way. What an EXPRESSION is, "Terms" says: see TermsTest. */
 public final class WayTest {
+    /** 40 signs that can be a rule. */
+    private static final String FORTY = "l+u+n+f+w+k+l+u+n+f+w+k+l+u+n+f+w+k+l+23";
+
     public static void main(String[] args) {
-        theText();
-        whatCannotStand();
-        longTexts();
-        values();
-        failedRulesStay();
-        firstAndOrder();
-        Check.done();
+        promise19Sign();
+        promise19Refused();
+        promise20End();
+        promise20False();
+        promise21Rule();
+        promise21CantStandThere();
+        promise21EndsTooEarly();
+        promise21MoreThan40();
+        promise21WhatIsLeftOfABadOne();
+        promise22First();
+        promise22OfEqualOnes();
+        promise22Refused();
+        promise23Order();
+        promise23Pairs();
+        Check.done(19, 23);
     }
 
-    private static void theText() {
-        FairByEar x = new FairByEar();
+    private static void promise19Sign() {
+        Check.promise(19, "Four signs come behind THE TEXT, of v the highest byte first: how many it has.");
+        FairByEar x = Fairs.people(5, 9);
         for (int i = 1; i <= 15; i++) {
             Check.due("sign", x.sign(0x6c6c6c6c), 4 * i);
+            Check.due("as many", x.count(9), 4 * i);
         }
-        Check.due("more than 60", x.sign(0), -1);
-        Check.due("60", x.count(9), 60);
-        Check.due("61", x.end(61), false);
-        Check.due("-1", x.end(-1), false);
-        Check.due("60", x.end(60), true);
-        Check.due("57", x.end(57), true);
-        Check.due("58", x.end(58), false);
-        Check.due("57 and 4", x.sign(0), -1);
-        Check.due("57", x.count(9), 57);
-        Check.due("0", x.end(0), true);
-        Check.due("empty", x.count(9), 0);
-        Check.due("the highest byte first", x.sign(('l' << 24) | ('+' << 16) | ('z' << 8) | 255), 4);
+        x.end(0);
+        Check.due("the highest byte first", x.sign('u' << 24 | '+' << 16 | '1' << 8 | '2'), 4);
+        Check.due("it is a rule", x.rule(), 0);
+        x.first(0, 1);
+        Check.row(x, "u+12", 17, 21);
+        x.sign('u' << 24 | '+' << 16 | 'z' << 8 | 255);
         Check.due("its third can't stand there", x.rule(), -3);
-        Check.due("it was emptied", x.count(9), 0);
+        for (int p = 0; p < 4; p++) {
+            x.sign('l' << 24 | '+' << 16 | 'l' << 8 | '+');
+            x.end(p);
+            Check.due("behind " + p, x.sign(0xffffffff), p + 4);
+            Check.due("a sign of 255 at " + p, x.rule(), -1 - p);
+        }
+        Check.due("below 0, too", x.sign(0x80000000), 4);
+    }
+
+    private static void promise19Refused() {
+        Check.promise(19, "Refused: there would be more than 60.");
+        Still.refused(Fairs::full, "sign", 0x6c6c6c6c);
+        for (int signs = 57; signs <= 60; signs++) {
+            Still.refused(textOf("l".repeat(signs))::made, "sign", 0);
+        }
+        FairByEar x = new FairByEar();
+        Check.text(x, "l".repeat(56));
+        Check.due("56 and 4", x.sign(0), 60);
+    }
+
+    private record Text(String signs) {
+        FairByEar made() {
+            FairByEar x = Fairs.some();
+            Check.text(x, signs);
+            return x;
+        }
+    }
+
+    private static Text textOf(String signs) {
+        return new Text(signs);
+    }
+
+    private static void promise20End() {
+        Check.promise(20, "THE TEXT has its first n signs alone: true;");
+        FairByEar x = Fairs.people(5, 9);
+        Check.due("none of none", x.end(0), true);
+        Check.text(x, "u+12+345");
+        Check.due("all of it", x.end(8), true);
+        Check.due("all of it", x.count(9), 8);
+        Check.due("the first four", x.end(4), true);
+        Check.due("the first four", x.count(9), 4);
+        Check.due("a rule", x.rule(), 0);
+        x.first(0, 1);
+        Check.row(x, "u+12", 17, 21);
+        Check.text(x, "u+12");
+        Check.due("none", x.end(0), true);
+        Check.due("none", x.count(9), 0);
+        Check.text(x, "l".repeat(60));
+        Check.due("60 of 60", x.end(60), true);
+        Check.due("60 of 60", x.count(9), 60);
+    }
+
+    private static void promise20False() {
+        Check.promise(20, "false if it has not so many, or n is below 0.");
+        Check.due("one of none", new FairByEar().end(1), false);
+        for (int n : new int[] {4, 5, 60, 61, -1, -3, Integer.MIN_VALUE, Integer.MAX_VALUE}) {
+            Still.still(textOf("k+l")::made, "false", "end", n);
+        }
+        Still.still(Fairs::full, "false", "end", 61);
+    }
+
+    private static void promise21Rule() {
+        Check.promise(21, "THE TEXT is THE RULE (an empty one: none): 0.");
+        FairByEar x = Fairs.people(5, 9);
+        Check.due("a rule", Check.rule(x, "u*2"), 0);
+        Check.due("the text is read, and empty", x.count(9), 0);
+        x.first(0, 1);
+        Check.row(x, "by it", 10, 18);
         Check.due("an empty one", x.rule(), 0);
+        x.first(0, 1);
+        Check.row(x, "none", 0, 0);
+        Check.due("empty from the first", new FairByEar().rule(), 0);
+        Check.due("of one sign", Check.rule(x, "n"), 0);
+        x.first(0, 1);
+        Check.row(x, "of one sign", 0, 1);
+        Check.due("of 40 signs", FORTY.length(), 40);
+        Check.due("of 40 signs", Check.rule(x, FORTY), 0);
     }
 
     private static void bad(String text, int p) {
         FairByEar x = new FairByEar();
         Check.due("rule \"" + text + "\"", Check.rule(x, text), -1 - p);
-        Check.due("the text of \"" + text + "\"", x.count(9), 0);
+        Check.due("the text behind \"" + text + "\"", x.count(9), 0);
     }
 
-    private static void fine(String text) {
-        Check.due("rule \"" + text + "\"", Check.rule(new FairByEar(), text), 0);
+    private static void promise21CantStandThere() {
+        Check.promise(21, "-1 - p: the sign at p can't stand there");
+        for (int sign = 0; sign < 256; sign++) {
+            String one = String.valueOf((char) sign);
+            if ("lunfwk0123456789(!-".indexOf(sign) < 0) {
+                bad(one, 0);
+                bad("l+" + one, 2);
+                bad("(" + one, 1);
+                bad("!" + one + "l", 1);
+            }
+            if ("|&<>=+-*".indexOf(sign) < 0) {
+                bad("l" + one, 1);
+                bad("(l" + (sign == ')' ? ")" + one : one), sign == ')' ? 3 : 2);
+                bad("100" + one + "l", 3);
+            }
+        }
+        bad("l+u+n+f+ w", 8);
+        bad("zz", 0);
+        bad("l)))", 1);
     }
 
-    private static void whatCannotStand() {
-        bad("z", 0);
-        bad(" l", 0);
-        bad("L", 0);
-        bad("~l", 0);
-        bad("l ", 1);
-        bad("l~", 1);
-        bad("l!", 1);
-        bad("lu", 1);
-        bad("l(", 1);
-        bad("12u", 2);
-        bad("l1", 1);
-        bad("(l)1", 3);
-        bad("(1)2", 3);
-        bad("1*l2", 3);
-        bad("(l)(", 3);
-        bad("(l)l", 3);
-        bad("1234", 3);
-        bad("1+1234", 5);
-        bad("()", 1);
-        bad(")", 0);
-        bad("l)", 1);
-        bad("(l))", 3);
-        bad("+l", 0);
-        bad("*l", 0);
-        bad("l+*u", 2);
-        bad("l<u<n", 3);
-        bad("l<u=n", 3);
-        bad("l=u>n", 3);
-        bad("l<u+1<n", 5);
-        bad("l<u*1>n", 5);
-        bad("l<(u<n)<1", 7);
-        bad("(l<u<n)", 4);
-        bad("l&u<n<1", 5);
-        bad("l\u0000", 1);
-        bad("l\u00ff", 1);
-        bad("-", 1);
-        bad("!", 1);
-        bad("l-", 2);
-        bad("(", 1);
-        bad("(l", 2);
-        bad("((l)", 4);
-        bad("((((((l))))))", 5);
-        bad("(((((l)))))+((((((l", 17);
-        fine("(((((l)))))+(((((u)))))");
-        fine("l<u&u<n|n=f");
-        fine("(l<u)<n");
-        fine("(l<u)+(n<f)");
-        fine("(l<u|n<f)&(n<f)");
-        fine("l<(u<(n<1))");
-        fine("!!--!-l");
-        fine("l--u");
-        fine("l*-u");
-        fine("l<-u");
-        fine("000");
-        fine("999*999*999*999");
+    private static void promise21EndsTooEarly() {
+        Check.promise(21, "(its end, if it ends too early;");
+        for (String text : new String[] {"-", "!", "l-", "(", "(l", "((l)", "l|", "l&", "l<", "1=", "l>-", "l*", "l+(", "l+(2-!"}) {
+            bad(text, text.length());
+        }
+        bad("!".repeat(39), 39);
+        bad("!".repeat(40), 40);
+        bad("(" + FORTY.substring(0, 38), 39);
+        bad("(" + FORTY.substring(0, 39), 40);
     }
 
-    private static void longTexts() {
-        String forty = "l+u+n+f+w+k+l+u+n+f+w+k+l+u+n+f+w+k+l+23";
-        Check.due("40 signs", forty.length(), 40);
-        fine(forty);
-        bad(forty + "4", 40);
-        bad(forty + "+", 40);
-        bad(forty + "z+l", 40);
-        bad(forty.substring(0, 39) + "+", 40);
-        bad(forty.substring(0, 39) + "+l", 40);
-        bad(forty.substring(0, 39) + "z+l", 39);
-        bad(forty.substring(0, 10) + "z" + forty.substring(0, 40), 10);
-        bad("(" + forty.substring(0, 39), 40);
-        bad("(" + forty + ")", 40);
+    private static void promise21MoreThan40() {
+        Check.promise(21, "40, if it has more and the first 40 could go on or end).");
+        bad(FORTY + "4", 40);
+        bad(FORTY + "+", 40);
+        bad(FORTY + "z+l", 40);
+        bad(FORTY + "+".repeat(20), 40);
+        bad(FORTY.substring(0, 39) + "+l", 40);
+        bad("(" + FORTY, 40);
+        bad("(" + FORTY + ")", 40);
+        bad("!".repeat(41), 40);
+        bad("!".repeat(40) + "l", 40);
+        bad("!".repeat(60), 40);
+        bad(FORTY.substring(0, 39) + "z+l", 39);
+        bad(FORTY.substring(0, 10) + "z" + FORTY, 10);
+        bad("z".repeat(60), 0);
     }
 
-    private static FairByEar three() {
-        FairByEar x = new FairByEar();
-        x.tunnel(0, 1, 5);
-        x.tunnel(1, 2, 7);
-        x.wall(2, 9);
-        x.person(2, 30, 4);
-        x.person(2, 6, 0);
-        x.person(5, 2, 1);
-        return x;
-    }
-
-    private static void value(FairByEar x, String text, long of0, long of1, long of2) {
-        Check.due("rule \"" + text + "\"", Check.rule(x, text), 0);
-        x.first(0, 1);
-        Check.row(x, "of 0 and 1 by \"" + text + "\"", of0, of1);
-        x.first(2, 0);
-        Check.row(x, "of 2 and 0 by \"" + text + "\"", of2, of0);
-    }
-
-    private static void values() {
-        FairByEar x = three();
-        value(x, "l", 4, 0, 1);
-        value(x, "u", 30, 6, 2);
-        value(x, "n", 0, 1, 2);
-        value(x, "f", 12, 12, 999);
-        value(x, "w", 9, 9, 0);
-        value(x, "k", 2, 2, 1);
-        value(x, "007", 7, 7, 7);
-        value(x, "100-l-u", 66, 94, 97);
-        value(x, "100-(l-u)", 126, 106, 101);
-        value(x, "2+l*u", 122, 2, 4);
-        value(x, "(2+l)*u", 180, 12, 6);
-        value(x, "-l*u", -120, 0, -2);
-        value(x, "l--u", 34, 6, 3);
-        value(x, "!l", 0, 1, 0);
-        value(x, "!!u", 1, 1, 1);
-        value(x, "-!l", 0, -1, 0);
-        value(x, "!-l", 0, 1, 0);
-        value(x, "!l+5", 5, 6, 5);
-        value(x, "!(l+5)", 0, 0, 0);
-        value(x, "l<u", 1, 1, 1);
-        value(x, "l>3", 1, 0, 0);
-        value(x, "l=4", 1, 0, 0);
-        value(x, "l<4", 0, 1, 1);
-        value(x, "l>0", 1, 0, 1);
-        value(x, "4>l", 0, 1, 1);
-        value(x, "l+1=5", 1, 0, 0);
-        value(x, "1+l=5", 1, 0, 0);
-        value(x, "l&u", 1, 0, 1);
-        value(x, "l|u", 1, 1, 1);
-        value(x, "n&l|n", 0, 1, 1);
-        value(x, "n|l&n", 0, 1, 1);
-        value(x, "1|0&0", 1, 1, 1);
-        value(x, "0&0|1", 1, 1, 1);
-        value(x, "0&(0|1)", 0, 0, 0);
-        value(x, "2&1=1", 1, 1, 1);
-        value(x, "5|0", 1, 1, 1);
-        int round = 999 * 999 * 999 * 999;
-        value(x, "999*999*999*999", round, round, round);
-        value(x, "", 0, 0, 0);
-    }
-
-    private static void failedRulesStay() {
-        FairByEar x = three();
-        String[] left = {"((", "(1", "12", "l<", "(l<u", "!", "1+2*", "((l<u)<", "l<u<"};
-        for (String text : left) {
-            Check.rule(x, text);
-            value(x, "7", 7, 7, 7);
-            Check.rule(x, text);
+    /** Nothing of a text that was refused gets into the next one; THE RULE ahead of it stays. */
+    private static void promise21WhatIsLeftOfABadOne() {
+        Check.promise(21, "-1 - p: the sign at p can't stand there");
+        FairByEar x = Fairs.people(5, 9);
+        for (String text : new String[] {"((", "(1", "12z", "l<", "(l<u", "!", "1+2*", "((l<u)<", "l<u<"}) {
+            Check.due("7", Check.rule(x, "7"), 0);
+            Check.due("refused", Check.rule(x, text) < 0, true);
+            x.first(0, 1);
+            Check.row(x, "the rule ahead of \"" + text + "\" stays", 7, 7);
             Check.due("behind \"" + text + "\" a )", Check.rule(x, ")"), -1);
             Check.rule(x, text);
-            value(x, "l<u", 1, 1, 1);
+            Check.due("behind \"" + text + "\" another <", Check.rule(x, "u<9"), 0);
+            x.first(0, 1);
+            Check.row(x, "behind \"" + text + "\"", 1, 0);
         }
-        value(x, "l*2", 8, 0, 2);
-        Check.due("a bad one", Check.rule(x, "u+"), -3);
+        Check.rule(x, FORTY + "+l");
         x.first(0, 1);
-        Check.row(x, "the one ahead of it stays", 8, 0);
-        Check.due("too long a one", Check.rule(x, "1+1+1+1+1+1+1+1+1+1+1+1+1+1+1+1+1+1+1+1+1"), -41);
-        x.first(0, 1);
-        Check.row(x, "it stays yet", 8, 0);
-        x.walk(0, 0);
-        x.end(0);
-        x.rule();
-        x.first(0, 1);
-        Check.row(x, "none", 0, 0);
+        Check.row(x, "the rule ahead of too long a one stays", 1, 0);
     }
 
-    private static void firstAndOrder() {
-        FairByEar x = new FairByEar();
-        Check.due("nobody", x.order(), 0);
-        Check.row(x, "nobody");
-        x.person(0, 5, 0);
-        Check.due("one", x.order(), 0);
-        Check.row(x, "one", 0);
-        x.person(0, 7, 0);
-        x.person(0, 5, 0);
-        x.person(0, 7, 0);
-        x.person(0, 7, 0);
-        Check.due("without a rule", x.first(3, 2), 2);
-        Check.due("all pairs", x.order(), 10);
-        Check.row(x, "all pairs", 0, 1, 2, 3, 4);
+    private static void promise22First() {
+        Check.promise(22, "Which of two unlike ones goes first: the one with the greater value by THE RULE;");
+        FairByEar x = Fairs.people(5, 7, 0, 0, 0, 0, 0, 999);
         Check.rule(x, "u");
         Check.due("greater", x.first(0, 1), 1);
         Check.due("greater, back", x.first(1, 0), 1);
-        Check.row(x, "as asked", 7, 5);
-        Check.due("equal", x.first(4, 3), 3);
-        Check.due("equal pairs", x.order(), 1 + 3);
-        Check.row(x, "equal pairs", 1, 3, 4, 0, 2);
-        Check.due("one and itself", x.first(1, 1), -1);
-        Check.due("person 5", x.first(1, 5), -1);
-        Check.due("person -1", x.first(-1, 1), -1);
-        Check.row(x, "as it was", 1, 3, 4, 0, 2);
+        Check.due("the last one", x.first(0, 7), 7);
+        Check.rule(x, "-u");
+        Check.due("below 0", x.first(0, 1), 0);
+        Check.rule(x, "0-999*999*(u*999)*3");
+        Check.due("as ints, which go round", x.first(0, 1), -999 * 999 * (5 * 999) * 3 > -999 * 999 * (7 * 999) * 3 ? 0 : 1);
+        Check.promise(22, "the ROW: both values.");
+        Check.rule(x, "u-6");
+        x.first(0, 1);
+        Check.row(x, "as asked", -1, 1);
+        x.first(1, 0);
+        Check.row(x, "as asked", 1, -1);
+        Check.rule(x, "-999*999*999-999*999*999-999*999*999");
+        x.first(0, 1);
+        int round = -999 * 999 * 999 * 3;
+        Check.row(x, "as ints", round, round);
+    }
+
+    private static void promise22OfEqualOnes() {
+        Check.promise(22, "of equal ones the lesser number;");
+        FairByEar x = Fairs.people(5, 7, 5);
+        Check.due("without a rule", x.first(2, 1), 1);
+        Check.due("without a rule", x.first(1, 2), 1);
+        Check.rule(x, "u");
+        Check.due("equal", x.first(2, 0), 0);
+        Check.due("equal", x.first(0, 2), 0);
+    }
+
+    private static void promise22Refused() {
+        Check.promise(22, "NONE: others.");
+        Still.refusedBeyond("first", new int[] {1, 2}, Still.ends(0, 3), Still.ends(0, 3));
+        for (int person = 0; person < 4; person++) {
+            Still.refused(Fairs::some, "first", person, person);
+        }
+        Still.refused(FairByEar::new, "first", 0, 1);
+        Still.refused(() -> Fairs.people(5), "first", 0, 1);
+        Still.refused(Fairs::full, "first", 8, 0);
+    }
+
+    private static void promise23Order() {
+        Check.promise(23, "All PEOPLE in the order in which they go first: the ROW: they.");
+        FairByEar x = new FairByEar();
+        x.order();
+        Check.row(x, "nobody");
+        x.person(0, 5, 0);
+        x.order();
+        Check.row(x, "one", 0);
+        for (int purse : new int[] {7, 5, 7, 7}) {
+            x.person(0, purse, 0);
+        }
+        x.order();
+        Check.row(x, "without a rule by number", 0, 1, 2, 3, 4);
+        Check.rule(x, "u");
+        x.order();
+        Check.row(x, "of equal ones the lesser number", 1, 3, 4, 0, 2);
         Check.rule(x, "-u");
         x.order();
         Check.row(x, "below 0", 0, 2, 1, 3, 4);
+        x = Fairs.full();
+        Check.rule(x, "u");
+        x.order();
+        Check.row(x, "eight", 7, 6, 5, 4, 3, 2, 1, 0);
+    }
+
+    private static void promise23Pairs() {
+        Check.promise(23, "How many pairs of them have the same value.");
+        Check.due("nobody", new FairByEar().order(), 0);
+        Check.due("one", Fairs.people(5).order(), 0);
+        Check.due("two", Fairs.people(5, 6).order(), 1);
+        FairByEar x = Fairs.people(5, 7, 5, 7, 7, 1, 2, 3);
+        Check.due("all eight", x.order(), 28);
+        Check.rule(x, "u");
+        Check.due("of two and of three", x.order(), 1 + 3);
+        Check.rule(x, "n");
+        Check.due("none", x.order(), 0);
     }
 }
