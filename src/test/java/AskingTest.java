@@ -21,18 +21,6 @@ public final class AskingTest {
         Check.done(27, 29);
     }
 
-    /** PEOPLE at PLACE 0 with 500 each, and GOODS. */
-    private static FairByEar fair(int people, int goods) {
-        FairByEar x = new FairByEar();
-        for (int i = 0; i < people; i++) {
-            x.person(0, 500, 0);
-        }
-        for (int i = 0; i < goods; i++) {
-            x.good(1);
-        }
-        return x;
-    }
-
     /** One ITEM of 50 that nobody asks for falls each round; another one, so far away, would ask for it at 45. */
     private static FairByEar falling(int length, int wind) {
         FairByEar x = new FairByEar();
@@ -137,9 +125,9 @@ public final class AskingTest {
     }
 
     private static void promise28WhoAsks() {
-        Check.promise(28, "n rounds (0 .. 200) of asking: in each, each one asks for that ITEM not SOLD, of another OWNER, "
-            + "that it hears of, for which WANTS less the PRICE it hears is the most");
-        FairByEar x = fair(4, 3);
+        Check.promise(28, "n rounds (0 .. 200) of asking: in each, each one asks for that ITEM not SOLD, of "
+            + "another OWNER, that it hears of, for which WANTS less the PRICE it hears is the most");
+        FairByEar x = Fairs.market(4, 3);
         x.item(0, 0, 10);
         x.item(1, 0, 20);
         x.item(2, 1, 5);
@@ -153,7 +141,7 @@ public final class AskingTest {
         x.want(3, 2, 10);
         x.rounds(1);
         Check.row(x, "the most, and not of its own", 0, 2 + 4 + 8, 0);
-        FairByEar y = fair(3, 2);
+        FairByEar y = Fairs.market(3, 2);
         y.item(0, 0, 10);
         y.item(1, 0, 10);
         y.want(1, 0, 50);
@@ -165,7 +153,7 @@ public final class AskingTest {
         y.undo();
         y.rounds(1);
         Check.row(y, "not sold any more", 6, 0);
-        FairByEar z = fair(2, 1);
+        FairByEar z = Fairs.market(2, 1);
         z.item(0, 1, 10);
         z.want(0, 0, 10);
         z.rounds(1);
@@ -174,7 +162,7 @@ public final class AskingTest {
 
     private static void promise28ZeroAtLeast() {
         Check.promise(28, "(0 at least, and that PRICE not above its PURSE;");
-        FairByEar x = fair(3, 1);
+        FairByEar x = Fairs.market(3, 1);
         x.item(0, 0, 10);
         x.want(1, 0, 10);
         x.want(2, 0, 9);
@@ -209,7 +197,7 @@ public final class AskingTest {
 
     private static void promise28OfEqualOnes() {
         Check.promise(28, "of equal ones the first;");
-        FairByEar x = fair(2, 3);
+        FairByEar x = Fairs.market(2, 3);
         x.item(0, 0, 10);
         x.item(1, 0, 20);
         x.item(2, 0, 20);
@@ -218,7 +206,7 @@ public final class AskingTest {
         x.want(1, 2, 25);
         x.rounds(1);
         Check.row(x, "5 twice", 0, 2, 0);
-        FairByEar y = fair(2, 2);
+        FairByEar y = Fairs.market(2, 2);
         y.item(0, 0, 7);
         y.item(1, 0, 9);
         y.want(1, 0, 7);
@@ -252,7 +240,7 @@ public final class AskingTest {
     private static void promise28Prices() {
         Check.promise(28, "then each PRICE of an ITEM not SOLD asked for by two or more is 1 more (99 at most), "
             + "by none 1 less (0 at least):");
-        FairByEar x = fair(5, 4);
+        FairByEar x = Fairs.market(5, 4);
         for (int good = 0; good < 4; good++) {
             x.item(good, 0, 20);
         }
@@ -268,7 +256,7 @@ public final class AskingTest {
         x.rounds(1);
         Check.due("a sold one keeps its price", x.thing(3, 2), 19);
         Check.due("by two", x.thing(1, 2), 22);
-        FairByEar y = fair(3, 1);
+        FairByEar y = Fairs.market(3, 1);
         y.item(0, 0, 98);
         y.want(1, 0, 99);
         y.want(2, 0, 99);
@@ -277,7 +265,7 @@ public final class AskingTest {
         y.rounds(5);
         Check.due("99 at most", y.thing(0, 2), 99);
         Check.row(y, "both ask yet", 6);
-        FairByEar z = fair(1, 1);
+        FairByEar z = Fairs.market(1, 1);
         z.item(0, 0, 1);
         z.rounds(1);
         Check.due("0", z.thing(0, 2), 0);
@@ -287,7 +275,7 @@ public final class AskingTest {
 
     private static void promise28Changed() {
         Check.promise(28, "how many PRICES changed in the last round (0 without);");
-        FairByEar x = fair(3, 3);
+        FairByEar x = Fairs.market(3, 3);
         x.item(0, 0, 2);
         x.item(1, 0, 5);
         x.item(2, 0, 0);
@@ -296,7 +284,7 @@ public final class AskingTest {
         x.want(2, 1, 0);
         Check.due("without", x.rounds(0), 0);
         Check.due("one falls, one is asked for, one is asked for at 0", x.rounds(1), 1);
-        FairByEar y = fair(1, 2);
+        FairByEar y = Fairs.market(1, 2);
         y.item(0, 0, 1);
         y.item(1, 0, 99);
         Check.due("both", y.rounds(1), 2);
@@ -305,17 +293,17 @@ public final class AskingTest {
         Check.due("none", y.rounds(1), 0);
         y.item(1, 0, 1);
         Check.due("of the last round alone", y.rounds(2), 0);
-        FairByEar z = fair(3, 1);
+        FairByEar z = Fairs.market(3, 1);
         z.item(0, 0, 99);
         z.want(1, 0, 99);
         z.want(2, 0, 99);
         Check.due("99 does not change", z.rounds(1), 0);
-        Check.due("no items", fair(3, 1).rounds(200), 0);
+        Check.due("no items", Fairs.market(3, 1).rounds(200), 0);
     }
 
     private static void promise28TheRow() {
         Check.promise(28, "the ROW: of each ITEM who asked for it in the last of these rounds (bits; 0 without).");
-        FairByEar x = fair(3, 2);
+        FairByEar x = Fairs.market(3, 2);
         x.item(0, 0, 10);
         x.item(1, 0, 10);
         x.want(1, 0, 12);
@@ -340,14 +328,15 @@ public final class AskingTest {
     private static void promise28Refused() {
         Check.promise(28, "Refused: others.");
         Still.refusedBeyond("rounds", new int[] {5}, Still.ends(0, 200));
-        FairByEar x = fair(1, 1);
+        FairByEar x = Fairs.market(1, 1);
         x.item(0, 0, 99);
         Check.due("200 rounds", x.rounds(200), 0);
         Check.due("all of them", x.thing(0, 2), 0);
     }
 
     private static void promise29Settles() {
-        Check.promise(29, "if that was the round ahead, how many rounds ahead of it were gone through (it has settled);");
+        Check.promise(29, "if that was the round ahead, how many rounds ahead of it were gone through (it has "
+            + "settled);");
         Check.due("nothing", new FairByEar().settles(), 0);
         FairByEar x = Fairs.people(99, 99);
         x.good(1);
@@ -364,36 +353,45 @@ public final class AskingTest {
         Check.due("one more", x.settles(), 1);
         x.rounds(1);
         Check.due("settled", x.settles(), 0);
-        FairByEar y = fair(1, 1);
+        FairByEar y = Fairs.market(1, 1);
         y.item(0, 0, 99);
         Check.due("99 down, and 9 rounds more", y.settles(), 108);
     }
 
     private static void promise29All() {
-        Check.promise(29, "How asking goes on, at most 200 rounds, till all (PRICES now, and those of 9 rounds back) is as it "
-            + "was behind some round gone through already (or now):");
-        FairByEar x = fair(2, 1);
+        Check.promise(29, "How asking goes on, at most 200 rounds, till all (PRICES now, and those of 9 rounds "
+            + "back) is as it was behind some round gone through already (or now):");
+        FairByEar x = Fairs.market(2, 1);
         x.item(0, 0, 9);
         x.rounds(3);
         x.buy(1, 0);
         Check.due("a sold one keeps its rounds gone by", x.settles(), 9);
         x.rounds(4);
         Check.due("so many fewer", x.settles(), 5);
-        FairByEar y = fair(1, 1);
+        FairByEar y = Fairs.market(1, 1);
         y.item(0, 0, 1);
         Check.due("one round, and it stands 9 rounds back", y.settles(), 10);
         y.rounds(1);
         Check.due("9 more", y.settles(), 9);
         y.rounds(8);
         Check.due("the last of 9 rounds back", y.settles(), 1);
-        FairByEar z = fair(1, 2);
+        FairByEar z = Fairs.market(1, 2);
         z.item(0, 0, 0);
         z.item(1, 0, 3);
         Check.due("each item, not the first alone", z.settles(), 12);
-        FairByEar one = fair(1, 2);
+        FairByEar one = Fairs.market(1, 2);
         one.item(0, 0, 3);
         one.item(1, 0, 0);
         Check.due("each item, not the last alone", one.settles(), 12);
+        for (int last = 0; last < 12; last++) {
+            FairByEar twelve = Fairs.market(1, 1);
+            for (int item = 0; item < 12; item++) {
+                twelve.item(0, 0, item == last ? 20 : 5);
+            }
+            Check.due("twelve items, the last to settle is " + last, twelve.settles(), 29);
+            Check.due("twelve items are settled one round ahead", twelve.rounds(28), 0);
+            Check.due("twelve items are settled one round ahead", twelve.settles(), 1);
+        }
     }
 
     /** Two who want an ITEM alike and hear of it d rounds late drive its PRICE round in 4d + 2 rounds. */

@@ -117,7 +117,8 @@ public final class CrowdsTest {
     }
 
     private static void promise42Crowds() {
-        Check.promise(42, "Crowds at PLACES 0 .. n less 1 (n 1 .. 6), 0 .. 4 at each, with which it would be as loud as was heard");
+        Check.promise(42, "Crowds at PLACES 0 .. n less 1 (n 1 .. 6), 0 .. 4 at each, with which it would be as "
+            + "loud as was heard");
         FairByEar x = Fairs.people(0);
         int all = 1;
         for (int n = 1; n <= 6; n++) {

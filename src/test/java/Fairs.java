@@ -16,6 +16,18 @@ final class Fairs {
         return x;
     }
 
+    /** So many of PEOPLE at PLACE 0 with PURSES of 500, and GOODS of OFTEN 1. */
+    static FairByEar market(int people, int goods) {
+        FairByEar x = new FairByEar();
+        for (int i = 0; i < people; i++) {
+            x.person(0, 500, 0);
+        }
+        for (int i = 0; i < goods; i++) {
+            x.good(1);
+        }
+        return x;
+    }
+
     /** So many GOODS of OFTEN 1, and TESTS of such COSTS. */
     static FairByEar goods(int goods, int... costs) {
         FairByEar x = new FairByEar();
@@ -119,7 +131,7 @@ final class Fairs {
         return x;
     }
 
-    /** Answers of all calls that tell what a fair keeps; the fair is made twice, as no object is asked more than 512 times. */
+    /** Answers of all calls that tell what a fair keeps; it is made twice, as no object is used for over 512 calls. */
     static List<String> asked(Supplier<FairByEar> made) {
         List<String> said = new ArrayList<>();
         askKept(made.get(), said);

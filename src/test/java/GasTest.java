@@ -42,8 +42,8 @@ public final class GasTest {
     }
 
     private static void promise43Gas() {
-        Check.promise(43, "GAS 0 .. 9999 (what 0), BREATH of each of PEOPLE a minute 1 .. 99 (1), LIMIT 1 .. 9999 (2; it is death "
-            + "from it on), FIRE 1 .. 9999 (3) becomes v: what it was");
+        Check.promise(43, "GAS 0 .. 9999 (what 0), BREATH of each of PEOPLE a minute 1 .. 99 (1), LIMIT 1 .. "
+            + "9999 (2; it is death from it on), FIRE 1 .. 9999 (3) becomes v: what it was");
         int[] least = {0, 1, 1, 1};
         int[] most = {9999, 99, 9999, 9999};
         FairByEar x = new FairByEar();
@@ -84,8 +84,8 @@ public final class GasTest {
     }
 
     private static void promise44Lasts() {
-        Check.promise(44, "Minutes that all can stay, so that all come out at PLACE 0 alive: from then on each minute each goes "
-            + "1 of LENGTH out (all at once; out, when its FAR is gone);");
+        Check.promise(44, "Minutes that all can stay, so that all come out at PLACE 0 alive: from then on each "
+            + "minute each goes 1 of LENGTH out (all at once; out, when its FAR is gone);");
         FairByEar x = air(0, 1, 100);
         x.tunnel(0, 1, 20);
         x.person(1, 0, 0);
@@ -108,7 +108,8 @@ public final class GasTest {
     }
 
     private static void promise44GasGrows() {
-        Check.promise(44, "GAS grows each minute by BREATH times those who are in yet as it begins (at PLACE 0 one is out as they go):");
+        Check.promise(44, "GAS grows each minute by BREATH times those who are in yet as it begins (at PLACE 0 "
+            + "one is out as they go):");
         Check.due("70 on the way, 30 a minute", three(0, 10, 101).lasts(), 1);
         Check.due("29 are too few", three(0, 10, 100).lasts(), 0);
         Check.due("GAS of now", three(1, 10, 102).lasts(), 1);
@@ -119,7 +120,8 @@ public final class GasTest {
     }
 
     private static void promise44TheMost() {
-        Check.promise(44, "the most m (0 .. 9999) with which GAS is below LIMIT at the end of each minute till the last one is out.");
+        Check.promise(44, "the most m (0 .. 9999) with which GAS is below LIMIT at the end of each minute till "
+            + "the last one is out.");
         Check.due("just below", three(0, 10, 71).lasts(), 0);
         Check.due("just one minute more", three(0, 10, 100 + 1).lasts(), 1);
         FairByEar x = air(0, 1, 9999);
@@ -175,8 +177,8 @@ public final class GasTest {
     }
 
     private static void promise45Leave() {
-        Check.promise(45, "They go from now on, one by one, each as the one ahead is out, those with the least FAR from PLACE 0 first "
-            + "(of equal ones the first; who has no way stays):");
+        Check.promise(45, "They go from now on, one by one, each as the one ahead is out, those with the least "
+            + "FAR from PLACE 0 first (of equal ones the first; who has no way stays):");
         FairByEar x = three(0, 1, 9999);
         Check.due("all", x.leave(), 3);
         Check.row(x, "the nearest first", 1, 2, 0);
@@ -218,7 +220,8 @@ public final class GasTest {
     }
 
     private static void promise45NoneAnyMore() {
-        Check.promise(45, "as GAS is LIMIT or more (ahead of all, too), none come out any more: how many come out; the ROW: they, in order.");
+        Check.promise(45, "as GAS is LIMIT or more (ahead of all, too), none come out any more: how many come "
+            + "out; the ROW: they, in order.");
         FairByEar x = three(39, 10, 40);
         Check.due("just below: the one at PLACE 0", x.leave(), 1);
         Check.row(x, "just below: the one at PLACE 0", 1);

@@ -22,7 +22,8 @@ public final class JudgeTest {
     }
 
     private static void promise46Ear() {
-        Check.promise(46, "CHANCE that an ear is off by d (0 .. 3) becomes v (0 .. 9; at first 6, 3, 1, 0): what it was.");
+        Check.promise(46, "CHANCE that an ear is off by d (0 .. 3) becomes v (0 .. 9; at first 6, 3, 1, 0): what "
+            + "it was.");
         FairByEar x = new FairByEar();
         int[] first = {6, 3, 1, 0};
         for (int d = 0; d < 4; d++) {
@@ -74,8 +75,8 @@ public final class JudgeTest {
     }
 
     private static void promise47Sound() {
-        Check.promise(47, "How late a clap of a PLACE is heard at another one (FAR), and given back by the WALL of the first behind "
-            + "that (twice WALL): the ROW: both,");
+        Check.promise(47, "How late a clap of a PLACE is heard at another one (FAR), and given back by the WALL "
+            + "of the first behind that (twice WALL): the ROW: both,");
         FairByEar x = star();
         x.wall(4, 20);
         Check.due("far", x.sound(4, 1), 0);
@@ -124,8 +125,8 @@ public final class JudgeTest {
     }
 
     private static void promise48Judge() {
-        Check.promise(48, "Where a clap was, heard by one (at its PLACE) so late (0 .. 999), and, given back by the WALL where it was, "
-            + "so late behind that (0 .. 999):");
+        Check.promise(48, "Where a clap was, heard by one (at its PLACE) so late (0 .. 999), and, given back by "
+            + "the WALL where it was, so late behind that (0 .. 999):");
         FairByEar x = line();
         Check.due("late 2", x.judge(0, 2, 0), 2);
         x.walk(0, 1);
@@ -138,8 +139,8 @@ public final class JudgeTest {
         Check.due("back 999", x.judge(0, 0, 999), -2);
         x.wall(0, 20);
         Check.due("back 40", x.judge(0, 1, 40), 0);
-        Check.promise(48, "each as likely ahead, each by CHANCE of how far late is off FAR, times that of how far back is off twice its "
-            + "WALL");
+        Check.promise(48, "each as likely ahead, each by CHANCE of how far late is off FAR, times that of how "
+            + "far back is off twice its WALL");
         FairByEar y = line();
         y.judge(0, 2, 0);
         Check.row(y, "6 of 1, 3, 6, 3, times 6 each", 6, 13);
@@ -222,8 +223,8 @@ public final class JudgeTest {
     }
 
     private static void promise49Who() {
-        Check.promise(49, "Who clapped, of all others of PEOPLE (each where it is, each as likely ahead): likewise: the one; the ROW: its "
-            + "odds.");
+        Check.promise(49, "Who clapped, of all others of PEOPLE (each where it is, each as likely ahead): "
+            + "likewise: the one; the ROW: its odds.");
         FairByEar x = line();
         x.person(2, 0, 0);
         x.person(0, 0, 0);
@@ -273,7 +274,8 @@ public final class JudgeTest {
     }
 
     private static void promise50Fire() {
-        Check.promise(50, "A lamp is lit at a PLACE: -2, if GAS is FIRE or more (all PURSES are 0 then: they are dropped);");
+        Check.promise(50, "A lamp is lit at a PLACE: -2, if GAS is FIRE or more (all PURSES are 0 then: they are "
+            + "dropped);");
         FairByEar x = Fairs.people(50, 60, 999);
         x.gas(0, 499);
         Check.due("just below", x.lamp(0), 7);
@@ -351,7 +353,8 @@ public final class JudgeTest {
     }
 
     private static void promise50Wanted() {
-        Check.promise(50, "of these those not SOLD which two or more of them, the OWNER left out, WANT more than their PRICE.");
+        Check.promise(50, "of these those not SOLD which two or more of them, the OWNER left out, WANT more than "
+            + "their PRICE.");
         FairByEar x = lit();
         x.want(0, 0, 11);
         x.want(1, 0, 11);
@@ -359,10 +362,12 @@ public final class JudgeTest {
         x.want(3, 0, 11);
         x.want(0, 1, 11);
         x.want(3, 1, 10);
+        x.want(2, 1, 99);
         x.lamp(0);
         Check.row(x, "the owner left out, who is too far left out", 1 + 4 + 8, 1 + 8);
         x.lamp(1);
-        Check.row(x, "all", 15, 1 + 2 + 8);
+        Check.row(x, "all", 15, 15);
+        x.want(2, 1, 0);
         x.want(1, 0, 10);
         x.want(2, 0, 10);
         x.lamp(1);
@@ -371,9 +376,11 @@ public final class JudgeTest {
         x.lamp(1);
         Check.row(x, "one is too few", 15, 0);
         x.want(3, 0, 11);
-        x.buy(0, 3);
+        x.buy(1, 0);
+        x.buy(2, 3);
         x.lamp(1);
-        Check.row(x, "a sold one is seen, but not wanted", 15, 2);
+        Check.row(x, "sold ones are seen, but not wanted, though two want them", 15, 2);
+        x.undo();
         x.undo();
         x.rounds(1);
         x.lamp(1);

@@ -1,5 +1,9 @@
 /** Promises 51 and 52: what is kept, and the ROW. */
 public final class KeptTest {
+    private static final String WHATS = "What 0: TUNNELS, 1: PEOPLE, 2: GOODS, 3: TESTS, 4: ITEMS, "
+        + "5: ITEMS SOLD (bits), 6: sales that can be undone, 7: the sum of PURSES, 8: numbers of the ROW, "
+        + "9: signs of THE TEXT.";
+
     public static void main(String[] args) {
         promise51Count();
         promise51AtItsMost();
@@ -11,8 +15,7 @@ public final class KeptTest {
     }
 
     private static void promise51Count() {
-        Check.promise(51, "What 0: TUNNELS, 1: PEOPLE, 2: GOODS, 3: TESTS, 4: ITEMS, 5: ITEMS SOLD (bits), 6: sales that can be undone, "
-            + "7: the sum of PURSES, 8: numbers of the ROW, 9: signs of THE TEXT.");
+        Check.promise(51, WHATS);
         FairByEar x = new FairByEar();
         for (int what = 0; what <= 9; what++) {
             Check.due("new: count(" + what + ")", x.count(what), 0);
@@ -47,8 +50,7 @@ public final class KeptTest {
     }
 
     private static void promise51AtItsMost() {
-        Check.promise(51, "What 0: TUNNELS, 1: PEOPLE, 2: GOODS, 3: TESTS, 4: ITEMS, 5: ITEMS SOLD (bits), 6: sales that can be undone, "
-            + "7: the sum of PURSES, 8: numbers of the ROW, 9: signs of THE TEXT.");
+        Check.promise(51, WHATS);
         FairByEar x = Fairs.full();
         int[] due = {16, 8, 10, 6, 12, 0, 0, 8 * 99 + 100 * 28, 2, 60};
         for (int what = 0; what < 10; what++) {

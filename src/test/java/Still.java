@@ -33,7 +33,8 @@ final class Still {
         });
         for (int i = 0; i < Math.min(without.size(), with.size()); i++) {
             if (!without.get(i).equals(with.get(i))) {
-                Check.fail("behind " + call + Arrays.toString(args) + ": " + with.get(i) + ", ahead of it: " + without.get(i));
+                String made = call + Arrays.toString(args);
+                Check.fail("behind " + made + ": " + with.get(i) + ", without it: " + without.get(i));
                 return;
             }
         }
@@ -63,7 +64,8 @@ final class Still {
             int least = ends[i][0];
             int most = ends[i][1];
             // An int's own ends, and 32 more or less, show whether an argument goes round or is used as a shift.
-            int[] values = {Integer.MIN_VALUE, least - 32, least - 1, least, most, most + 1, most + 32, Integer.MAX_VALUE};
+            int[] values = {Integer.MIN_VALUE, least - 32, least - 1, least, most, most + 1, most + 32,
+                Integer.MAX_VALUE};
             for (int v : values) {
                 Integer[] args = Arrays.stream(fine).boxed().toArray(Integer[]::new);
                 args[i] = v;

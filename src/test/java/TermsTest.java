@@ -73,7 +73,8 @@ public final class TermsTest {
     }
 
     private static void far() {
-        Check.terms("FAR of two PLACES: the least sum of LENGTHS between them (999: there is no way; of one and itself 0).");
+        Check.terms("FAR of two PLACES: the least sum of LENGTHS between them "
+            + "(999: there is no way; of one and itself 0).");
         FairByEar x = new FairByEar();
         x.tunnel(0, 1, 10);
         x.tunnel(1, 2, 10);

@@ -23,7 +23,8 @@ public final class ThievesTest {
     }
 
     private static void promise32Counted() {
-        Check.promise(32, "At a stall of a PLACE there were so many (0 .. 99) in a minute (0 .. 999): how many counts.");
+        Check.promise(32, "At a stall of a PLACE there were so many (0 .. 99) in a minute (0 .. 999): how many "
+            + "counts.");
         FairByEar x = new FairByEar();
         for (int i = 1; i <= 16; i++) {
             Check.due("count", x.counted(i % 2 * 9, i <= 8 ? 0 : 999, i <= 8 ? 99 : 0), i);
@@ -116,7 +117,8 @@ public final class ThievesTest {
     }
 
     private static void promise34TheRow() {
-        Check.promise(34, "the ROW: the minute ahead and its own of the first one, and how many were taken in all (none without).");
+        Check.promise(34, "the ROW: the minute ahead and its own of the first one, and how many were taken in "
+            + "all (none without).");
         FairByEar x = new FairByEar();
         x.loudest();
         x.missing(3);
@@ -193,7 +195,8 @@ public final class ThievesTest {
     }
 
     private static void promise36Gang() {
-        Check.promise(36, "The fewest of PEOPLE of whom each theft at all PLACES has one as a suspect: how many; the ROW: they (bits):");
+        Check.promise(36, "The fewest of PEOPLE of whom each theft at all PLACES has one as a suspect: how many; "
+            + "the ROW: they (bits):");
         FairByEar x = Fairs.people(1, 1, 1, 1);
         Check.due("no thefts", x.gang(), 0);
         Check.row(x, "no thefts", 0);
@@ -219,6 +222,18 @@ public final class ThievesTest {
         }
         Check.due("all eight", y.gang(), 8);
         Check.row(y, "all eight", 255);
+        FairByEar z = Fairs.people(1, 1, 1);
+        for (int place = 0; place < 2; place++) {
+            z.counted(place, 0, 1);
+            z.counted(place, 1, 0);
+            z.been(place, place, 0, 0);
+        }
+        Check.due("two", z.gang(), 2);
+        Check.row(z, "two", 3);
+        z.been(2, 0, 0, 0);
+        z.been(2, 1, 1, 1);
+        Check.due("one, though its bits are more", z.gang(), 1);
+        Check.row(z, "one, though its bits are more", 4);
     }
 
     private static void promise36OfAsFew() {

@@ -18,20 +18,9 @@ public final class TradeTest {
         Check.done(30, 31);
     }
 
-    private static FairByEar fair(int people, int goods) {
-        FairByEar x = new FairByEar();
-        for (int i = 0; i < people; i++) {
-            x.person(0, 500, 0);
-        }
-        for (int i = 0; i < goods; i++) {
-            x.good(1);
-        }
-        return x;
-    }
-
     private static void promise24Want() {
         Check.promise(24, "WANTS of one by a GOOD become v: what they were.");
-        FairByEar x = fair(8, 10);
+        FairByEar x = Fairs.market(8, 10);
         for (int i = 0; i < 80; i++) {
             Check.due("at first 0", x.want(i / 10, i % 10, 99 - i), 0);
         }
@@ -42,15 +31,15 @@ public final class TradeTest {
         Check.promise(24, "Refused: others.");
         Still.refusedBeyond("want", new int[] {1, 1, 50}, Still.ends(0, 3), Still.ends(0, 2), Still.ends(0, 99));
         Still.refused(FairByEar::new, "want", 0, 0, 0);
-        Still.refused(() -> fair(1, 0), "want", 0, 0, 0);
-        Still.refused(() -> fair(0, 1), "want", 0, 0, 0);
+        Still.refused(() -> Fairs.market(1, 0), "want", 0, 0, 0);
+        Still.refused(() -> Fairs.market(0, 1), "want", 0, 0, 0);
         Still.refused(Fairs::full, "want", 8, 0, 1);
         Still.refused(Fairs::full, "want", 0, 10, 1);
     }
 
     private static void promise25Item() {
         Check.promise(25, "An ITEM of one of PEOPLE more, its PRICE: its number.");
-        FairByEar x = fair(8, 10);
+        FairByEar x = Fairs.market(8, 10);
         for (int i = 0; i < 12; i++) {
             Check.due("item " + i, x.item(9 - i % 10, 7 - i % 8, 99 - 9 * i), i);
             Check.due("as many", x.count(4), i + 1);
@@ -65,13 +54,13 @@ public final class TradeTest {
         Still.refusedBeyond("item", new int[] {1, 1, 50}, Still.ends(0, 2), Still.ends(0, 3), Still.ends(0, 99));
         Still.refused(Fairs::full, "item", 0, 0, 0);
         Still.refused(FairByEar::new, "item", 0, 0, 0);
-        Still.refused(() -> fair(1, 0), "item", 0, 0, 0);
-        Still.refused(() -> fair(0, 1), "item", 0, 0, 0);
+        Still.refused(() -> Fairs.market(1, 0), "item", 0, 0, 0);
+        Still.refused(() -> Fairs.market(0, 1), "item", 0, 0, 0);
     }
 
     private static void promise26Thing() {
         Check.promise(26, "Of an ITEM, what 0: GOOD, 1: OWNER, 2: PRICE, 3: 1 if SOLD.");
-        FairByEar x = fair(3, 2);
+        FairByEar x = Fairs.market(3, 2);
         x.item(1, 2, 99);
         x.item(0, 1, 0);
         x.buy(0, 1);
@@ -86,8 +75,8 @@ public final class TradeTest {
     }
 
     private static void promise30Buy() {
-        Check.promise(30, "One buys an ITEM not SOLD of another OWNER at its PRICE: the ITEM is SOLD and its own, the PRICE goes "
-            + "from PURSE to PURSE");
+        Check.promise(30, "One buys an ITEM not SOLD of another OWNER at its PRICE: the ITEM is SOLD and its "
+            + "own, the PRICE goes from PURSE to PURSE");
         FairByEar x = new FairByEar();
         x.tunnel(0, 9, 20);
         x.person(0, 100, 0);
@@ -198,7 +187,7 @@ public final class TradeTest {
 
     private static void promise31Undo() {
         Check.promise(31, "The latest sale is undone:");
-        FairByEar x = fair(2, 1);
+        FairByEar x = Fairs.market(2, 1);
         for (int i = 0; i < 12; i++) {
             x.item(0, 0, 1);
         }
@@ -243,7 +232,7 @@ public final class TradeTest {
         Check.due("owner", x.thing(0, 1), 0);
         Check.due("bits", x.count(5), 0);
         Check.due("it can be sold again", x.buy(1, 0), 30);
-        FairByEar y = fair(2, 1);
+        FairByEar y = Fairs.market(2, 1);
         y.item(0, 0, 20);
         y.rounds(3);
         y.buy(1, 0);

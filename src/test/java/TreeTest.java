@@ -49,6 +49,15 @@ public final class TreeTest {
         Still.refused(FairByEar::new, call, first);
     }
 
+    /** 8 GOODS, 6 TESTS of COSTS 1 .. 6: each tells one GOOD alone, so that all are taken, the cheapest first. */
+    private static FairByEar sixDeep() {
+        FairByEar x = Fairs.goods(8, 1, 2, 3, 4, 5, 6);
+        for (int test = 0; test < 6; test++) {
+            x.answer(test, test, 9);
+        }
+        return x;
+    }
+
     private static void promise13Sure() {
         Check.promise(13, "How many of GOODS told as bits (those there are; 1 ..) would be told by TESTS told as bits "
             + "for sure (no other one of them has the same ANSWERS to all): the ROW: they (bits).");
@@ -91,8 +100,8 @@ public final class TreeTest {
     }
 
     private static void promise14Keep() {
-        Check.promise(14, "The fewest TESTS by which all of GOODS told as bits have unlike ANSWERS, pair by pair: how many; "
-            + "the ROW: they:");
+        Check.promise(14, "The fewest TESTS by which all of GOODS told as bits have unlike ANSWERS, pair by "
+            + "pair: how many; the ROW: they:");
         FairByEar x = Fairs.goods(4, 9, 1, 1);
         Fairs.answers(x, 0, "0123");
         Fairs.answers(x, 1, "0011");
@@ -102,6 +111,11 @@ public final class TreeTest {
         x.answer(3, 0, 2);
         Check.due("two tests", x.keep(15), 2);
         Check.row(x, "two tests", 6);
+        Fairs.answers(x, 0, "0000");
+        x.test(9);
+        Fairs.answers(x, 3, "0123");
+        Check.due("one test, though its bits are more", x.keep(15), 1);
+        Check.row(x, "one test, though its bits are more", 8);
         Check.due("one good", x.keep(8), 0);
         Check.row(x, "one good", 0);
         Check.due("a good without tests", Fairs.goods(1).keep(1), 0);
@@ -195,8 +209,9 @@ public final class TreeTest {
     }
 
     private static void promise16Tree() {
-        Check.promise(16, "The best tree of TESTS that tells which of GOODS told as bits it is (one after the other, the "
-            + "next by what was answered): the least sum over these GOODS of OFTEN times COST of all TESTS taken for it;");
+        Check.promise(16, "The best tree of TESTS that tells which of GOODS told as bits it is (one after the "
+            + "other, the next by what was answered): the least sum over these GOODS of OFTEN times COST of all "
+            + "TESTS taken for it;");
         FairByEar x = fair(often(9, 1, 1), 5, 2, 2);
         Fairs.answers(x, 0, "012");
         Fairs.answers(x, 1, "100");
@@ -204,10 +219,7 @@ public final class TreeTest {
         Check.due("the often one first", x.tree(7), 11 * 2 + 2 * 2);
         Check.due("one alone", x.tree(2), 0);
         Check.due("two", x.tree(5), 10 * 2);
-        FairByEar y = Fairs.goods(8, 1, 2, 3, 4, 5, 6);
-        for (int test = 0; test < 6; test++) {
-            y.answer(test, test, 9);
-        }
+        FairByEar y = sixDeep();
         Check.due("all six tests", y.tree(255), 8 + 7 * 2 + 6 * 3 + 5 * 4 + 4 * 5 + 3 * 6);
         FairByEar z = Fairs.goods(4, 1, 1, 1);
         Fairs.answers(z, 0, "0011");
@@ -262,7 +274,11 @@ public final class TreeTest {
     }
 
     private static void promise16TheMost() {
-        Check.promise(16, "the most that it costs for some GOOD (by such a tree, always the first TEST of equal ones).");
+        Check.promise(16, "the most that it costs for some GOOD (by such a tree, always the first TEST of equal "
+            + "ones).");
+        FairByEar deep = sixDeep();
+        deep.tree(255);
+        Check.row(deep, "all six tests", 0, 1 + 2 + 3 + 4 + 5 + 6);
         FairByEar x = Fairs.goods(4, 4, 2, 2);
         Fairs.answers(x, 0, "0123");
         Fairs.answers(x, 1, "0011");
@@ -295,8 +311,8 @@ public final class TreeTest {
     }
 
     private static void promise17Copper() {
-        Check.promise(17, "With so many coppers (0 .. 99) for the TESTS of one GOOD: the greatest sum of OFTEN of those of "
-            + "GOODS told as bits that can be told for sure by a tree,");
+        Check.promise(17, "With so many coppers (0 .. 99) for the TESTS of one GOOD: the greatest sum of OFTEN "
+            + "of those of GOODS told as bits that can be told for sure by a tree,");
         FairByEar x = fair(often(3, 4, 5), 2, 1);
         Fairs.answers(x, 0, "011");
         Fairs.answers(x, 1, "001");
@@ -307,6 +323,7 @@ public final class TreeTest {
         Check.due("99", x.copper(7, 99), 12);
         Check.due("one is told for nothing", x.copper(2, 0), 4);
         Check.due("it tells no row", x.count(8), 0);
+        Check.due("without the first good", x.copper(6, 1), 9);
         x.answer(2, 1, 0);
         Check.due("two stay together", x.copper(7, 99), 3);
         Check.due("no tests", Fairs.goods(2).copper(3, 99), 0);
@@ -318,10 +335,7 @@ public final class TreeTest {
 
     private static void promise17NoBranchCostsMore() {
         Check.promise(17, "of which no branch costs more.");
-        FairByEar x = Fairs.goods(8, 1, 2, 3, 4, 5, 6);
-        for (int test = 0; test < 6; test++) {
-            x.answer(test, test, 9);
-        }
+        FairByEar x = sixDeep();
         int[] due = {0, 1, 1, 2, 2, 2, 3};
         for (int coppers = 0; coppers < due.length; coppers++) {
             Check.due("for " + coppers, x.copper(255, coppers), due[coppers]);
@@ -330,15 +344,33 @@ public final class TreeTest {
         Check.due("just enough for all six", x.copper(255, 21), 6);
         Check.due("the last two stay together", x.copper(255, 99), 6);
         Check.due("without one of them", x.copper(127, 21), 7);
+        branchesEachTheirOwn();
         FairByEar y = Fairs.goods(2, 9);
         y.answer(1, 0, 1);
         Check.due("8 are too few for a test of 9", y.copper(3, 8), 0);
         Check.due("9 are not", y.copper(3, 9), 2);
     }
 
+    /** What was found of one branch does not get into another one, nor into that of another first TEST. */
+    private static void branchesEachTheirOwn() {
+        FairByEar x = Fairs.goods(4, 3, 1, 2);
+        Fairs.answers(x, 0, "0011");
+        Fairs.answers(x, 1, "0102");
+        Fairs.answers(x, 2, "0010");
+        Check.due("the first test takes all coppers, the second and the third tell all", x.copper(15, 3), 4);
+        FairByEar y = fair(often(9, 9, 1, 1, 1), 1, 1);
+        Fairs.answers(y, 0, "00111");
+        Fairs.answers(y, 1, "01222");
+        Check.due("two are told, three are not", y.copper(31, 99), 18);
+        FairByEar z = fair(often(1, 1, 1, 9, 9), 1, 1);
+        Fairs.answers(z, 0, "11100");
+        Fairs.answers(z, 1, "22201");
+        Check.due("three are not told, two are", z.copper(31, 99), 18);
+    }
+
     private static void promise18Asks() {
-        Check.promise(18, "What one hears of a GOOD by a tree(): the ROW: TESTS taken, in order, then the GOODS left (bits). "
-            + "How many TESTS.");
+        Check.promise(18, "What one hears of a GOOD by a tree(): the ROW: TESTS taken, in order, then the GOODS "
+            + "left (bits). How many TESTS.");
         FairByEar x = fair(often(9, 1, 1), 5, 2, 2);
         Check.due("none parts them", x.asks(6, 2), 0);
         Check.row(x, "none parts them", 6);
@@ -355,10 +387,7 @@ public final class TreeTest {
         Fairs.answers(x, 2, "000");
         Check.due("two left together", x.asks(7, 2), 1);
         Check.row(x, "two left together", 1, 6);
-        FairByEar y = Fairs.goods(8, 1, 2, 3, 4, 5, 6);
-        for (int test = 0; test < 6; test++) {
-            y.answer(test, test, 9);
-        }
+        FairByEar y = sixDeep();
         Check.due("all six, without a tree ahead", y.asks(255, 7), 6);
         Check.row(y, "all six, without a tree ahead", 0, 1, 2, 3, 4, 5, 64 + 128);
         Check.due("the fifth of them", y.asks(255, 4), 5);

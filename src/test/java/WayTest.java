@@ -143,7 +143,7 @@ public final class WayTest {
 
     private static void promise21EndsTooEarly() {
         Check.promise(21, "(its end, if it ends too early;");
-        for (String text : new String[] {"-", "!", "l-", "(", "(l", "((l)", "l|", "l&", "l<", "1=", "l>-", "l*", "l+(", "l+(2-!"}) {
+        for (String text : "- ! l- ( (l ((l) l| l& l< 1= l>- l* l+( l+(2-!".split(" ")) {
             bad(text, text.length());
         }
         bad("!".repeat(39), 39);
@@ -184,6 +184,11 @@ public final class WayTest {
             x.first(0, 1);
             Check.row(x, "behind \"" + text + "\"", 1, 0);
         }
+        for (String number : new String[] {"1", "12", "u+1", "1z"}) {
+            Check.rule(x, number);
+            Check.due("behind \"" + number + "\" no digit goes on", Check.rule(x, "u1"), -2);
+        }
+        Check.rule(x, "u<9");
         Check.rule(x, FORTY + "+l");
         x.first(0, 1);
         Check.row(x, "the rule ahead of too long a one stays", 1, 0);
@@ -199,7 +204,9 @@ public final class WayTest {
         Check.rule(x, "-u");
         Check.due("below 0", x.first(0, 1), 0);
         Check.rule(x, "0-999*999*(u*999)*3");
-        Check.due("as ints, which go round", x.first(0, 1), -999 * 999 * (5 * 999) * 3 > -999 * 999 * (7 * 999) * 3 ? 0 : 1);
+        int of0 = -999 * 999 * (5 * 999) * 3;
+        int of1 = -999 * 999 * (7 * 999) * 3;
+        Check.due("as ints, which go round", x.first(0, 1), of0 > of1 ? 0 : 1);
         Check.promise(22, "the ROW: both values.");
         Check.rule(x, "u-6");
         x.first(0, 1);
