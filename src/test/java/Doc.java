@@ -3,14 +3,19 @@ import java.nio.file.Files;
 import java.nio.file.Path;
 import java.util.BitSet;
 import java.util.Map;
+import java.util.Set;
 import java.util.TreeMap;
+import java.util.TreeSet;
+import java.util.regex.Pattern;
 
-/** The document's promises as texts, and which words of them a test has quoted. */
+/** The document's promises as texts, which words of them a test has quoted, and its public face. */
 final class Doc {
     /** The number under which "Terms" goes among the promises. */
     static final int TERMS = 0;
 
     private static final Path FILE = Path.of("../shared/DOC.md");
+    private static final String ALL = all();
+    private static final Map<Integer, String> NAMES = new TreeMap<>();
     private static final Map<Integer, String> TEXTS = read();
     private static final Map<Integer, BitSet> QUOTED = new TreeMap<>();
 
@@ -41,19 +46,43 @@ final class Doc {
         return left.toString().replaceAll("[^A-Za-z0-9]+", " ").strip();
     }
 
-    private static Map<Integer, String> read() {
-        Map<Integer, String> texts = new TreeMap<>();
-        String all;
+    static boolean isThere() {
+        return !ALL.isEmpty();
+    }
+
+    /** The calls whose promises say something of this form. */
+    static Set<String> callsThatSay(String form) {
+        Set<String> calls = new TreeSet<>();
+        for (Map.Entry<Integer, String> promise : TEXTS.entrySet()) {
+            if (promise.getKey() != TERMS && Pattern.compile(form).matcher(promise.getValue()).find()) {
+                calls.add(NAMES.get(promise.getKey()));
+            }
+        }
+        return calls;
+    }
+
+    /** The lines of "The public face", without their indent. */
+    static String[] face() {
+        String from = ALL.substring(ALL.indexOf("```java") + "```java".length());
+        return from.substring(0, from.indexOf("```")).strip().split("\\s*\n\\s*");
+    }
+
+    private static String all() {
         try {
-            all = Files.readString(FILE);
+            return Files.readString(FILE);
         } catch (IOException e) {
             // What a test holds to is known without the document; only whether it says so can't be seen then.
             System.out.println("no " + FILE + ": quotes are taken as they are");
-            return texts;
+            return "";
         }
-        for (String part : all.split("(?m)^## ")) {
+    }
+
+    private static Map<Integer, String> read() {
+        Map<Integer, String> texts = new TreeMap<>();
+        for (String part : ALL.split("(?m)^## ")) {
             if (part.startsWith("Promise ")) {
                 int number = Integer.parseInt(part.substring(8, part.indexOf(':')));
+                NAMES.put(number, part.substring(part.indexOf(':') + 1, part.indexOf('\n')).strip());
                 texts.put(number, plain(part.substring(part.indexOf("`: ") + 3)));
             } else if (part.startsWith("Terms")) {
                 texts.put(TERMS, plain(part.substring(5, part.indexOf("Ahead of the calls"))));

@@ -23,6 +23,7 @@ public final class FaceTest {
 
     public static void main(String[] args) throws IOException {
         publicFace();
+        toldFace();
         hiddenRest();
         List<Class<?>> all = new ArrayList<>(Arrays.asList(FairByEar.class.getDeclaredClasses()));
         all.add(FairByEar.class);
@@ -53,6 +54,24 @@ public final class FaceTest {
             Check.fail("the face is " + there + ", due is " + due);
         }
         Check.due("NONE", FairByEar.NONE, -1);
+    }
+
+    /** Each line of the document's face stands in the class as it is, with a body where it has none. */
+    private static void toldFace() throws IOException {
+        if (!Doc.isThere()) {
+            return;
+        }
+        Set<String> lines = new TreeSet<>();
+        for (String line : Files.readString(SOURCE).split("\n")) {
+            lines.add(line.strip());
+        }
+        int calls = 0;
+        for (String told : Doc.face()) {
+            boolean call = told.startsWith("public ") && told.contains("(");
+            calls += call ? 1 : 0;
+            Check.due("the class has: " + told, lines.contains(call ? told.replace(";", " {") : told), true);
+        }
+        Check.due("a constructor and as many calls as promises behind it", calls, 52);
     }
 
     private static void hiddenRest() {
